@@ -1,0 +1,1068 @@
+import java.util.Arrays;
+
+/**
+ * Texts with branches turned into code without: both sides of a branch are done and moves choose what they set;
+ * where that may not be, or would take too much, jumps stay.
+ */
+public final class GuardedMoves {
+    public static final int NONE = -1;
+
+    private static final int VARIABLES = 16;
+    private static final int WORDS = 32;
+    private static final int TAPE_BYTES = 600;
+    private static final int STATEMENTS = 60;
+    private static final int DEEPEST = 6;
+    private static final int LARGEST_LIMIT = 400;
+    // No statement takes more than 12 steps: a division takes 5, a choice in each of the 6 branches round it, a move.
+    private static final int STEPS = STATEMENTS * 12;
+
+    private static final int WELL = 0;
+    private static final int DIVISION = 1;
+    private static final int INDEX = 2;
+
+    private static final int WRONG_BYTE = 1;
+    private static final int LARGE_NUMBER = 2;
+    private static final int MANY_STATEMENTS = 3;
+    private static final int DEEP_BRANCH = 4;
+
+    private static final int SORT_VALUE = 0;
+    private static final int SORT_OPERATION = 1;
+    private static final int SORT_READ = 2;
+    private static final int SORT_WRITE = 3;
+    private static final int SORT_TELL = 4;
+    private static final int SORT_BRANCH = 5;
+
+    private static final int SET = 0;
+    private static final int MOVE = 1;
+    private static final int PLUS = 2;
+    private static final int MINUS = 3;
+    private static final int TIMES = 4;
+    private static final int DIVIDE = 5;
+    private static final int REST = 6;
+    private static final int AND = 7;
+    private static final int OR = 8;
+    private static final int EITHER = 9;
+    private static final int EQUAL = 10;
+    private static final int UNEQUAL = 11;
+    private static final int LESS = 12;
+    private static final int CHOOSE = 13;
+    private static final int LOAD = 14;
+    private static final int STORE = 15;
+    private static final int JUMP = 16;
+    private static final int JUMPNOT = 17;
+    private static final int TELL = 18;
+
+    private static final String OPERATIONS = "+-*/%&|^";
+    private static final String RELATIONS = "=#<";
+
+    private final int[] putVariables = new int[VARIABLES];
+    private final int[] putWords = new int[WORDS];
+    private final int[] tape = new int[TAPE_BYTES];
+    private int tapeLength = 0;
+    private int latestFault = 0;
+    // Read into the spare text first: a faulty tape must leave the text alone.
+    private Text text = new Text();
+    private Text spareText = new Text();
+    private final TextReader reader = new TextReader(tape, spareText);
+    private final Code code = new Code();
+    private boolean hasCode = false;
+    private final Lowering lowering = new Lowering(text, code);
+    private final Outcome outcome = new Outcome();
+    private final TextRun textRun = new TextRun(text, outcome);
+    private final CodeRun codeRun = new CodeRun(code, outcome);
+
+    public GuardedMoves() {
+    }
+
+    public void variable(int v, int number) throws IndexOutOfBoundsException {
+        if (v < 0 || v >= VARIABLES) {
+            throw new IndexOutOfBoundsException("no such variable");
+        }
+        putVariables[v] = number;
+    }
+
+    public void word(int i, int number) throws IndexOutOfBoundsException {
+        if (i < 0 || i >= WORDS) {
+            throw new IndexOutOfBoundsException("no such word");
+        }
+        putWords[i] = number;
+    }
+
+    public int feed(long bytes, int n) throws IllegalArgumentException, IllegalStateException {
+        if (n < 1 || n > 8) {
+            throw new IllegalArgumentException("1 to 8 bytes can be fed");
+        }
+        if (tapeLength + n > TAPE_BYTES) {
+            throw new IllegalStateException("the tape would be too long");
+        }
+        for (int i = n - 1; i >= 0; i--) {
+            tape[tapeLength] = (int) (bytes >>> (8 * i)) & 255;
+            tapeLength++;
+        }
+        return tapeLength;
+    }
+
+    public int read() {
+        boolean whole = reader.takeTape(tapeLength, spareText);
+        latestFault = reader.fault;
+        if (!whole) {
+            return -1 - reader.faultPlace;
+        }
+        Text before = text;
+        text = spareText;
+        spareText = before;
+        tapeLength = 0;
+        hasCode = false;
+        return text.size;
+    }
+
+    public int fault() {
+        return latestFault;
+    }
+
+    public int statement(int s, int what) throws IndexOutOfBoundsException, IllegalArgumentException {
+        if (s < 0 || s >= text.size) {
+            throw new IndexOutOfBoundsException("no such statement");
+        }
+        switch (what) {
+            case 0:
+                return text.sort[s];
+            case 1:
+                return text.depth[s];
+            case 2:
+                return hasCode && lowering.converted[s] ? 1 : 0;
+            case 3:
+                return hasCode ? code.stepsOf(s) : 0;
+            default:
+                throw new IllegalArgumentException("nothing such is told of a statement");
+        }
+    }
+
+    public int lower(int limit) throws IllegalArgumentException {
+        if (limit < 0 || limit > LARGEST_LIMIT) {
+            throw new IllegalArgumentException("no such limit");
+        }
+        lowering.makeCode(text, limit);
+        hasCode = true;
+        return code.steps;
+    }
+
+    public int trim() {
+        return hasCode ? code.dropUseless() : 0;
+    }
+
+    public int step(int i, int what) throws IndexOutOfBoundsException, IllegalArgumentException {
+        if (!hasCode || i < 0 || i >= code.steps) {
+            throw new IndexOutOfBoundsException("no such step");
+        }
+        if (what < 0 || what >= Code.ROWS) {
+            throw new IllegalArgumentException("nothing such is told of a step");
+        }
+        return code.rows[what][i];
+    }
+
+    public int tell() {
+        outcome.begin(putVariables, putWords);
+        textRun.doText(text);
+        return outcome.ended;
+    }
+
+    public int run() throws IllegalStateException {
+        if (!hasCode) {
+            throw new IllegalStateException("there is no code");
+        }
+        outcome.begin(putVariables, putWords);
+        codeRun.doCode();
+        return outcome.ended;
+    }
+
+    public int left(int v) throws IndexOutOfBoundsException {
+        if (v < 0 || v >= VARIABLES) {
+            throw new IndexOutOfBoundsException("no such variable");
+        }
+        return outcome.variables[v];
+    }
+
+    public int kept(int i) throws IndexOutOfBoundsException {
+        if (i < 0 || i >= WORDS) {
+            throw new IndexOutOfBoundsException("no such word");
+        }
+        return outcome.words[i];
+    }
+
+    public int output(int i) throws IndexOutOfBoundsException {
+        if (i < 0 || i >= outcome.told) {
+            throw new IndexOutOfBoundsException("no such number of the output");
+        }
+        return outcome.output[i];
+    }
+
+    public int count(int what) throws IllegalArgumentException {
+        switch (what) {
+            case 0:
+                return text.size;
+            case 1:
+                return hasCode ? code.steps : 0;
+            case 2:
+                return hasCode ? code.registers : VARIABLES;
+            case 3:
+                return hasCode ? code.jumps() : 0;
+            case 4:
+                return hasCode ? lowering.convertedBranches() : 0;
+            case 5:
+                return outcome.told;
+            case 6:
+                return tapeLength;
+            case 7:
+                return outcome.where;
+            case 8:
+                return outcome.did;
+            default:
+                throw new IllegalArgumentException("nothing such is counted");
+        }
+    }
+
+    private static boolean isWord(int index) {
+        return index >= 0 && index < WORDS;
+    }
+
+    private static boolean divides(int operation) {
+        return operation == DIVIDE || operation == REST;
+    }
+
+    private static int resultOf(int operation, int a, int b) {
+        switch (operation) {
+            case PLUS:
+                return a + b;
+            case MINUS:
+                return a - b;
+            case TIMES:
+                return a * b;
+            case DIVIDE:
+                return b == 0 ? 0 : a / b;
+            case REST:
+                return b == 0 ? 0 : a % b;
+            case AND:
+                return a & b;
+            case OR:
+                return a | b;
+            case EITHER:
+                return a ^ b;
+            case EQUAL:
+                return a == b ? 1 : 0;
+            case UNEQUAL:
+                return a != b ? 1 : 0;
+            case LESS:
+                return a < b ? 1 : 0;
+            default:
+                return 0;
+        }
+    }
+
+    /**
+     * The statements of a text. They are numbered as they begin, so the first side of branch s is s + 1 up to
+     * second[s], and its second side second[s] up to end[s].
+     */
+    private static final class Text {
+        final int[] sort = new int[STATEMENTS];
+        final int[] depth = new int[STATEMENTS];
+        final int[] target = new int[STATEMENTS];
+        final int[] operation = new int[STATEMENTS];
+        final int[] second = new int[STATEMENTS];
+        final int[] end = new int[STATEMENTS];
+        // Two places a statement, for its first and its second VALUE.
+        final boolean[] named = new boolean[2 * STATEMENTS];
+        final int[] number = new int[2 * STATEMENTS];
+        int size = 0;
+
+        int begin(int openBranches) {
+            int s = size;
+            sort[s] = SORT_VALUE;
+            depth[s] = openBranches;
+            target[s] = 0;
+            operation[s] = 0;
+            second[s] = s + 1;
+            end[s] = s + 1;
+            size++;
+            return s;
+        }
+
+        void putValue(int place, boolean isVariable, int what) {
+            named[place] = isVariable;
+            number[place] = what;
+        }
+    }
+
+    /** Reads the tape from the left and stops at the first fault, which is then the leftmost one. */
+    private static final class TextReader {
+        private static final int END = -1;
+        private static final long TOO_LARGE = 2147483648L;
+
+        private final int[] tape;
+        private final int[] openBranch = new int[DEEPEST];
+        private final boolean[] inSecond = new boolean[DEEPEST];
+        private Text text;
+        private int length = 0;
+        private int place = 0;
+        private int open = 0;
+        int fault = 0;
+        int faultPlace = 0;
+
+        TextReader(int[] tape, Text text) {
+            this.tape = tape;
+            this.text = text;
+        }
+
+        boolean takeTape(int bytes, Text into) {
+            text = into;
+            text.size = 0;
+            length = bytes;
+            place = 0;
+            open = 0;
+            fault = 0;
+            faultPlace = 0;
+            // Each round takes a byte at least, or ends the reading.
+            for (int round = 0; round <= length && fault == 0; round++) {
+                int next = nextByte();
+                if (next == END) {
+                    return open == 0 || refuse(WRONG_BYTE);
+                }
+                if (next == '}') {
+                    closeSide();
+                } else {
+                    takeStatement(next);
+                }
+            }
+            return fault == 0;
+        }
+
+        private boolean refuse(int number) {
+            fault = number;
+            faultPlace = place;
+            return false;
+        }
+
+        private int nextByte() {
+            while (place < length && (tape[place] == ' ' || tape[place] == '\n')) {
+                place++;
+            }
+            return place < length ? tape[place] : END;
+        }
+
+        private boolean takeByte(int wanted) {
+            if (nextByte() != wanted) {
+                return refuse(WRONG_BYTE);
+            }
+            place++;
+            return true;
+        }
+
+        private boolean closeSide() {
+            if (open == 0) {
+                return refuse(WRONG_BYTE);
+            }
+            place++;
+            int branch = openBranch[open - 1];
+            if (!inSecond[open - 1]) {
+                text.second[branch] = text.size;
+                if (nextByte() == '{') {
+                    place++;
+                    inSecond[open - 1] = true;
+                    return true;
+                }
+            }
+            text.end[branch] = text.size;
+            open--;
+            return true;
+        }
+
+        private boolean takeStatement(int next) {
+            if (!isVariable(next) && next != '@' && next != '!' && next != '?') {
+                return refuse(WRONG_BYTE);
+            }
+            if (text.size >= STATEMENTS) {
+                return refuse(MANY_STATEMENTS);
+            }
+            if (next == '?' && open >= DEEPEST) {
+                return refuse(DEEP_BRANCH);
+            }
+            int s = text.begin(open);
+            place++;
+            switch (next) {
+                case '@':
+                    return takeWrite(s);
+                case '!':
+                    return takeTelling(s);
+                case '?':
+                    return takeBranch(s);
+                default:
+                    text.target[s] = next - 'a';
+                    return takeSetting(s);
+            }
+        }
+
+        private boolean takeWrite(int s) {
+            text.sort[s] = SORT_WRITE;
+            return takeValue(2 * s) && takeByte('=') && takeValue(2 * s + 1) && takeByte(';');
+        }
+
+        private boolean takeTelling(int s) {
+            text.sort[s] = SORT_TELL;
+            return takeValue(2 * s) && takeByte(';');
+        }
+
+        private boolean takeBranch(int s) {
+            text.sort[s] = SORT_BRANCH;
+            if (!takeValue(2 * s)) {
+                return false;
+            }
+            int relation = placeIn(RELATIONS, nextByte());
+            if (relation == NONE) {
+                return refuse(WRONG_BYTE);
+            }
+            place++;
+            text.operation[s] = EQUAL + relation;
+            if (!takeValue(2 * s + 1) || !takeByte('{')) {
+                return false;
+            }
+            openBranch[open] = s;
+            inSecond[open] = false;
+            open++;
+            return true;
+        }
+
+        private boolean takeSetting(int s) {
+            if (!takeByte('=')) {
+                return false;
+            }
+            if (nextByte() == '@') {
+                place++;
+                text.sort[s] = SORT_READ;
+                return takeValue(2 * s) && takeByte(';');
+            }
+            if (!takeValue(2 * s)) {
+                return false;
+            }
+            int operation = placeIn(OPERATIONS, nextByte());
+            if (operation == NONE) {
+                return takeByte(';');
+            }
+            place++;
+            text.sort[s] = SORT_OPERATION;
+            text.operation[s] = PLUS + operation;
+            return takeValue(2 * s + 1) && takeByte(';');
+        }
+
+        private boolean takeValue(int slot) {
+            int next = nextByte();
+            if (isVariable(next)) {
+                place++;
+                text.putValue(slot, true, next - 'a');
+                return true;
+            }
+            boolean below = next == '-';
+            if (below) {
+                place++;
+                next = nextByte();
+            }
+            return isFigure(next) ? takeNumber(slot, below) : refuse(WRONG_BYTE);
+        }
+
+        private boolean takeNumber(int slot, boolean below) {
+            int begin = place;
+            long number = 0;
+            while (place < length && isFigure(tape[place])) {
+                number = Math.min(number * 10 + (tape[place] - '0'), TOO_LARGE);
+                place++;
+            }
+            if (number >= TOO_LARGE) {
+                place = begin;
+                return refuse(LARGE_NUMBER);
+            }
+            text.putValue(slot, false, (int) (below ? -number : number));
+            return true;
+        }
+
+        private static boolean isVariable(int next) {
+            return next >= 'a' && next < 'a' + VARIABLES;
+        }
+
+        private static boolean isFigure(int next) {
+            return next >= '0' && next <= '9';
+        }
+
+        private static int placeIn(String signs, int next) {
+            for (int i = 0; i < signs.length(); i++) {
+                if (signs.charAt(i) == next) {
+                    return i;
+                }
+            }
+            return NONE;
+        }
+    }
+
+    /** Steps, in rows: their codes, four rows of their numbers, and the statements that they tell. */
+    private static final class Code {
+        static final int ROWS = 6;
+        private static final int TOLD = 5;
+        // By code: in which rows a step has the registers that it takes (none if the last is before the first).
+        private static final int[] FIRST_TAKEN = {2, 2, 2, 2, 2, 2, 2, 2, 2, 2, 2, 2, 2, 2, 2, 1, 1, 1, 1};
+        private static final int[] LAST_TAKEN = {1, 2, 3, 3, 3, 3, 3, 3, 3, 3, 3, 3, 3, 4, 2, 2, 0, 1, 1};
+
+        final int[][] rows = new int[ROWS][STEPS];
+        int steps = 0;
+        int registers = VARIABLES;
+        int statement = 0;
+        private final boolean[] taken = new boolean[VARIABLES + STEPS];
+        private final boolean[] stays = new boolean[STEPS];
+        private final int[] placeThen = new int[STEPS + 1];
+
+        void clear() {
+            steps = 0;
+            registers = VARIABLES;
+        }
+
+        int add(int kind, int first, int second, int third, int fourth) {
+            int i = steps;
+            if (i < STEPS) {
+                rows[0][i] = kind;
+                rows[1][i] = first;
+                rows[2][i] = second;
+                rows[3][i] = third;
+                rows[4][i] = fourth;
+                rows[TOLD][i] = statement;
+                steps++;
+            }
+            return i;
+        }
+
+        int addToNew(int kind, int second, int third, int fourth) {
+            int register = registers;
+            registers++;
+            add(kind, register, second, third, fourth);
+            return register;
+        }
+
+        void leadHere(int jump) {
+            if (jump >= 0 && jump < steps) {
+                rows[leadRow(jump)][jump] = steps;
+            }
+        }
+
+        private int leadRow(int jump) {
+            return rows[0][jump] == JUMP ? 1 : 2;
+        }
+
+        private boolean isJump(int i) {
+            return rows[0][i] == JUMP || rows[0][i] == JUMPNOT;
+        }
+
+        int jumps() {
+            int found = 0;
+            for (int i = 0; i < steps; i++) {
+                found += isJump(i) ? 1 : 0;
+            }
+            return found;
+        }
+
+        int stepsOf(int s) {
+            int found = 0;
+            for (int i = 0; i < steps; i++) {
+                found += rows[TOLD][i] == s ? 1 : 0;
+            }
+            return found;
+        }
+
+        int dropUseless() {
+            findUseless();
+            int before = steps;
+            placeThen[0] = 0;
+            for (int i = 0; i < before; i++) {
+                placeThen[i + 1] = placeThen[i] + (stays[i] ? 1 : 0);
+            }
+            for (int i = 0; i < before; i++) {
+                if (stays[i]) {
+                    shift(i, placeThen[i]);
+                }
+            }
+            steps = placeThen[before];
+            return before - steps;
+        }
+
+        // A register is set ahead of all that take it, so one way from the back finds those, too, that only useless
+        // steps take.
+        private void findUseless() {
+            Arrays.fill(taken, false);
+            for (int i = steps - 1; i >= 0; i--) {
+                stays[i] = !mayGo(i) || taken[rows[1][i]];
+                if (stays[i]) {
+                    markTaken(i);
+                }
+            }
+        }
+
+        private boolean mayGo(int i) {
+            int kind = rows[0][i];
+            return kind <= CHOOSE && !divides(kind) && rows[1][i] >= VARIABLES;
+        }
+
+        private void markTaken(int i) {
+            int kind = rows[0][i];
+            for (int row = FIRST_TAKEN[kind]; row <= LAST_TAKEN[kind]; row++) {
+                taken[rows[row][i]] = true;
+            }
+        }
+
+        private void shift(int from, int to) {
+            if (isJump(from)) {
+                int row = leadRow(from);
+                rows[row][from] = placeThen[rows[row][from]];
+            }
+            for (int row = 0; row < ROWS; row++) {
+                rows[row][to] = rows[row][from];
+            }
+        }
+    }
+
+    /** Makes code of a text: first it finds which branches are converted, then it lowers the whole. */
+    private static final class Lowering {
+        final boolean[] converted = new boolean[STATEMENTS];
+        private final Code code;
+        private Text text;
+        // The registers that stand for the variables now; by level those from before a branch, and behind its first side.
+        private final int[] standing = new int[VARIABLES];
+        private final int[][] before = new int[DEEPEST][VARIABLES];
+        private final int[][] behindFirst = new int[DEEPEST][VARIABLES];
+        // NONE outside of converted sides.
+        private int guard = NONE;
+
+        Lowering(Text text, Code code) {
+            this.text = text;
+            this.code = code;
+        }
+
+        int convertedBranches() {
+            int found = 0;
+            for (int s = 0; s < text.size; s++) {
+                found += converted[s] ? 1 : 0;
+            }
+            return found;
+        }
+
+        void makeCode(Text ofText, int limit) {
+            text = ofText;
+            // Inner branches have higher numbers, so they are settled ahead of those round them.
+            for (int s = text.size - 1; s >= 0; s--) {
+                converted[s] = text.sort[s] == SORT_BRANCH && allInsideConvert(s) && stepsAlone(s) <= limit;
+            }
+            beginCode();
+            lowerRange(0, text.size, 0);
+        }
+
+        private void beginCode() {
+            code.clear();
+            guard = NONE;
+            for (int v = 0; v < VARIABLES; v++) {
+                standing[v] = v;
+            }
+        }
+
+        private boolean allInsideConvert(int branch) {
+            for (int s = branch + 1; s < text.end[branch]; s++) {
+                boolean staysBranch = text.sort[s] == SORT_BRANCH && !converted[s];
+                if (staysBranch || text.sort[s] == SORT_TELL) {
+                    return false;
+                }
+            }
+            return true;
+        }
+
+        private int stepsAlone(int branch) {
+            beginCode();
+            convert(branch, 0);
+            return code.steps;
+        }
+
+        private void lowerRange(int from, int to, int level) {
+            for (int s = from; s < to; s = Math.max(s + 1, text.end[s])) {
+                lowerOne(s, level);
+            }
+        }
+
+        private void lowerOne(int s, int level) {
+            code.statement = s;
+            if (text.sort[s] != SORT_BRANCH) {
+                if (guard == NONE) {
+                    lowerPlainly(s);
+                } else {
+                    lowerGuarded(s);
+                }
+            } else if (converted[s]) {
+                convert(s, level);
+            } else {
+                lowerWithJumps(s, level);
+            }
+        }
+
+        private int valueRegister(int slot) {
+            return text.named[slot] ? standing[text.number[slot]] : setNew(text.number[slot]);
+        }
+
+        private int setNew(int number) {
+            return code.addToNew(SET, number, 0, 0);
+        }
+
+        private int testRegister(int branch) {
+            int first = valueRegister(2 * branch);
+            int second = valueRegister(2 * branch + 1);
+            return code.addToNew(text.operation[branch], first, second, 0);
+        }
+
+        private void lowerPlainly(int s) {
+            int target = text.target[s];
+            if (text.sort[s] == SORT_VALUE && !text.named[2 * s]) {
+                code.add(SET, target, text.number[2 * s], 0, 0);
+                return;
+            }
+            int first = valueRegister(2 * s);
+            switch (text.sort[s]) {
+                case SORT_VALUE:
+                    code.add(MOVE, target, first, 0, 0);
+                    break;
+                case SORT_OPERATION:
+                    code.add(text.operation[s], target, first, valueRegister(2 * s + 1), 0);
+                    break;
+                case SORT_READ:
+                    code.add(LOAD, target, first, 0, 0);
+                    break;
+                case SORT_WRITE:
+                    code.add(STORE, first, valueRegister(2 * s + 1), 0, 0);
+                    break;
+                default:
+                    code.add(TELL, first, 0, 0, 0);
+                    break;
+            }
+        }
+
+        private void lowerWithJumps(int branch, int level) {
+            if (level >= DEEPEST) {
+                return;
+            }
+            int test = testRegister(branch);
+            int overFirst = code.add(JUMPNOT, test, 0, 0, 0);
+            lowerRange(branch + 1, text.second[branch], level + 1);
+            if (text.second[branch] == text.end[branch]) {
+                code.leadHere(overFirst);
+                return;
+            }
+            code.statement = branch;
+            int overSecond = code.add(JUMP, 0, 0, 0, 0);
+            code.leadHere(overFirst);
+            lowerRange(text.second[branch], text.end[branch], level + 1);
+            code.leadHere(overSecond);
+        }
+
+        private void lowerGuarded(int s) {
+            int first = valueRegister(2 * s);
+            int target = text.target[s];
+            switch (text.sort[s]) {
+                case SORT_VALUE:
+                    standing[target] = first;
+                    break;
+                case SORT_OPERATION:
+                    standing[target] = guardedOperation(s, first);
+                    break;
+                case SORT_READ:
+                    standing[target] = code.addToNew(LOAD, harmlessIndex(2 * s, first), 0, 0);
+                    break;
+                default:
+                    guardedWrite(s, first);
+                    break;
+            }
+        }
+
+        private int guardedOperation(int s, int first) {
+            int slot = 2 * s + 1;
+            int second = valueRegister(slot);
+            boolean maybeZero = text.named[slot] || text.number[slot] == 0;
+            if (divides(text.operation[s]) && maybeZero) {
+                second = orElse(second, 1);
+            }
+            return code.addToNew(text.operation[s], first, second, 0);
+        }
+
+        private int harmlessIndex(int slot, int index) {
+            boolean sure = !text.named[slot] && isWord(text.number[slot]);
+            return sure ? index : orElse(index, 0);
+        }
+
+        private int orElse(int register, int harmless) {
+            int other = setNew(harmless);
+            return code.addToNew(CHOOSE, guard, register, other);
+        }
+
+        private void guardedWrite(int s, int index) {
+            int value = valueRegister(2 * s + 1);
+            int place = harmlessIndex(2 * s, index);
+            int word = code.addToNew(LOAD, place, 0, 0);
+            int chosen = code.addToNew(CHOOSE, guard, value, word);
+            code.add(STORE, place, chosen, 0, 0);
+        }
+
+        private void convert(int branch, int level) {
+            if (level >= DEEPEST) {
+                return;
+            }
+            code.statement = branch;
+            int outerGuard = guard;
+            int test = testRegister(branch);
+            System.arraycopy(standing, 0, before[level], 0, VARIABLES);
+            if (branch + 1 < text.second[branch]) {
+                guard = guardWithin(outerGuard, test);
+                lowerRange(branch + 1, text.second[branch], level + 1);
+            }
+            System.arraycopy(standing, 0, behindFirst[level], 0, VARIABLES);
+            System.arraycopy(before[level], 0, standing, 0, VARIABLES);
+            code.statement = branch;
+            if (text.second[branch] < text.end[branch]) {
+                int zero = setNew(0);
+                guard = guardWithin(outerGuard, code.addToNew(EQUAL, test, zero, 0));
+                lowerRange(text.second[branch], text.end[branch], level + 1);
+            }
+            guard = outerGuard;
+            code.statement = branch;
+            chooseSides(test, level);
+            if (outerGuard == NONE) {
+                moveBack();
+            }
+        }
+
+        private int guardWithin(int outerGuard, int own) {
+            return outerGuard == NONE ? own : code.addToNew(AND, outerGuard, own, 0);
+        }
+
+        private void chooseSides(int test, int level) {
+            for (int v = 0; v < VARIABLES; v++) {
+                int first = behindFirst[level][v];
+                int second = standing[v];
+                if (first != before[level][v] || second != before[level][v]) {
+                    standing[v] = code.addToNew(CHOOSE, test, first, second);
+                }
+            }
+        }
+
+        private void moveBack() {
+            for (int v = 0; v < VARIABLES; v++) {
+                if (standing[v] != v) {
+                    code.add(MOVE, v, standing[v], 0, 0);
+                    standing[v] = v;
+                }
+            }
+        }
+    }
+
+    /** What the latest run left. */
+    private static final class Outcome {
+        final int[] variables = new int[VARIABLES];
+        final int[] words = new int[WORDS];
+        final int[] output = new int[STATEMENTS];
+        int told = 0;
+        int ended = WELL;
+        int where = NONE;
+        int did = 0;
+
+        void begin(int[] putVariables, int[] putWords) {
+            System.arraycopy(putVariables, 0, variables, 0, VARIABLES);
+            System.arraycopy(putWords, 0, words, 0, WORDS);
+            told = 0;
+            ended = WELL;
+            where = NONE;
+            did = 0;
+        }
+
+        void end(int how, int statement) {
+            ended = how;
+            where = statement;
+        }
+
+        void add(int number) {
+            if (told < STATEMENTS) {
+                output[told] = number;
+                told++;
+            }
+        }
+    }
+
+    /** Does a text as it is told. */
+    private static final class TextRun {
+        private final Outcome outcome;
+        private Text text;
+
+        TextRun(Text text, Outcome outcome) {
+            this.text = text;
+            this.outcome = outcome;
+        }
+
+        void doText(Text ofText) {
+            text = ofText;
+            doRange(0, text.size, 0);
+        }
+
+        private void doRange(int from, int to, int level) {
+            for (int s = from; s < to && outcome.ended == WELL; s = Math.max(s + 1, text.end[s])) {
+                outcome.did++;
+                if (text.sort[s] == SORT_BRANCH) {
+                    doBranch(s, level);
+                } else {
+                    doSimple(s);
+                }
+            }
+        }
+
+        private void doBranch(int s, int level) {
+            if (level >= DEEPEST) {
+                return;
+            }
+            if (resultOf(text.operation[s], valueOf(2 * s), valueOf(2 * s + 1)) != 0) {
+                doRange(s + 1, text.second[s], level + 1);
+            } else {
+                doRange(text.second[s], text.end[s], level + 1);
+            }
+        }
+
+        private int valueOf(int slot) {
+            return text.named[slot] ? outcome.variables[text.number[slot]] : text.number[slot];
+        }
+
+        private void doSimple(int s) {
+            int first = valueOf(2 * s);
+            int target = text.target[s];
+            switch (text.sort[s]) {
+                case SORT_VALUE:
+                    outcome.variables[target] = first;
+                    break;
+                case SORT_OPERATION:
+                    doOperation(s, first, valueOf(2 * s + 1));
+                    break;
+                case SORT_READ:
+                    if (isWord(first)) {
+                        outcome.variables[target] = outcome.words[first];
+                    } else {
+                        outcome.end(INDEX, s);
+                    }
+                    break;
+                case SORT_WRITE:
+                    if (isWord(first)) {
+                        outcome.words[first] = valueOf(2 * s + 1);
+                    } else {
+                        outcome.end(INDEX, s);
+                    }
+                    break;
+                default:
+                    outcome.add(first);
+                    break;
+            }
+        }
+
+        private void doOperation(int s, int first, int second) {
+            if (divides(text.operation[s]) && second == 0) {
+                outcome.end(DIVISION, s);
+            } else {
+                outcome.variables[text.target[s]] = resultOf(text.operation[s], first, second);
+            }
+        }
+    }
+
+    /** Does code, step by step. */
+    private static final class CodeRun {
+        private final Code code;
+        private final Outcome outcome;
+        private final int[] register = new int[VARIABLES + STEPS];
+
+        CodeRun(Code code, Outcome outcome) {
+            this.code = code;
+            this.outcome = outcome;
+        }
+
+        void doCode() {
+            Arrays.fill(register, 0);
+            System.arraycopy(outcome.variables, 0, register, 0, VARIABLES);
+            int next = 0;
+            // Jumps lead onward alone.
+            for (int i = 0; i < code.steps && outcome.ended == WELL; i = Math.max(i + 1, next)) {
+                outcome.did++;
+                next = nextBehind(i);
+                doStep(i);
+            }
+            System.arraycopy(register, 0, outcome.variables, 0, VARIABLES);
+        }
+
+        private int nextBehind(int i) {
+            if (code.rows[0][i] == JUMP) {
+                return code.rows[1][i];
+            }
+            boolean jumps = code.rows[0][i] == JUMPNOT && register[code.rows[1][i]] == 0;
+            return jumps ? code.rows[2][i] : i + 1;
+        }
+
+        private void doStep(int i) {
+            int first = code.rows[1][i];
+            int second = code.rows[2][i];
+            switch (code.rows[0][i]) {
+                case SET:
+                    register[first] = second;
+                    break;
+                case MOVE:
+                    register[first] = register[second];
+                    break;
+                case CHOOSE:
+                    register[first] = register[register[second] != 0 ? code.rows[3][i] : code.rows[4][i]];
+                    break;
+                case LOAD:
+                    load(i, first, register[second]);
+                    break;
+                case STORE:
+                    store(i, register[first], register[second]);
+                    break;
+                case JUMP:
+                case JUMPNOT:
+                    break;
+                case TELL:
+                    outcome.add(register[first]);
+                    break;
+                default:
+                    reach(i, register[second], register[code.rows[3][i]]);
+                    break;
+            }
+        }
+
+        private void load(int i, int target, int index) {
+            if (isWord(index)) {
+                register[target] = outcome.words[index];
+            } else {
+                end(INDEX, i);
+            }
+        }
+
+        private void store(int i, int index, int value) {
+            if (isWord(index)) {
+                outcome.words[index] = value;
+            } else {
+                end(INDEX, i);
+            }
+        }
+
+        private void reach(int i, int a, int b) {
+            int operation = code.rows[0][i];
+            if (divides(operation) && b == 0) {
+                end(DIVISION, i);
+            } else {
+                register[code.rows[1][i]] = resultOf(operation, a, b);
+            }
+        }
+
+        private void end(int how, int i) {
+            outcome.end(how, code.rows[Code.TOLD][i]);
+        }
+    }
+}

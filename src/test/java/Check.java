@@ -1,0 +1,114 @@
+import java.nio.charset.StandardCharsets;
+
+/** What the tests share: comparing answers, feeding texts, and showing code. */
+final class Check {
+  private static final String[] CODES = {
+    "SET", "MOVE", "+", "-", "*", "/", "%", "&", "|", "^", "=", "#", "<",
+    "CHOOSE", "LOAD", "STORE", "JUMP", "JUMPNOT", "TELL"
+  };
+  private static final int[] NUMBERS = {2, 2, 3, 3, 3, 3, 3, 3, 3, 3, 3, 3, 3, 4, 2, 2, 1, 2, 1};
+
+  private static int wrong = 0;
+
+  private Check() {
+  }
+
+  interface Call {
+    void make();
+  }
+
+  static void due(String call, Object got, Object want) {
+    if (!want.equals(got)) {
+      wrong++;
+      System.out.println(call + " answered " + got + ", due is " + want);
+    }
+  }
+
+  static void index(String call, Call made) {
+    throwing(call, made, IndexOutOfBoundsException.class);
+  }
+
+  static void argument(String call, Call made) {
+    throwing(call, made, IllegalArgumentException.class);
+  }
+
+  static void state(String call, Call made) {
+    throwing(call, made, IllegalStateException.class);
+  }
+
+  private static void throwing(String call, Call made, Class<?> want) {
+    Object got = "nothing";
+    try {
+      made.make();
+    } catch (RuntimeException e) {
+      got = e.getClass();
+    }
+    due(call + " throws", got, want);
+  }
+
+  static void end() {
+    if (wrong != 0) {
+      System.out.println(wrong + " answers are not as due");
+      System.exit(1);
+    }
+  }
+
+  static void feed(GuardedMoves x, String text) {
+    byte[] bytes = text.getBytes(StandardCharsets.ISO_8859_1);
+    for (int at = 0; at < bytes.length; at += 8) {
+      int n = Math.min(8, bytes.length - at);
+      long number = 0;
+      for (int i = 0; i < n; i++) {
+        number = number << 8 | bytes[at + i] & 255;
+      }
+      x.feed(number, n);
+    }
+  }
+
+  static GuardedMoves fed(String text) {
+    GuardedMoves x = new GuardedMoves();
+    feed(x, text);
+    return x;
+  }
+
+  static GuardedMoves of(String text) {
+    GuardedMoves x = fed(text);
+    int statements = x.read();
+    if (statements < 0) {
+      due("read() of " + text, statements, "no fault");
+    }
+    return x;
+  }
+
+  static GuardedMoves lowered(String text, int limit) {
+    GuardedMoves x = of(text);
+    x.lower(limit);
+    return x;
+  }
+
+  /** The whole code, a row a step: its name, its numbers, and the statement behind a colon. */
+  static String code(GuardedMoves x) {
+    StringBuilder all = new StringBuilder();
+    for (int i = 0; i < x.count(1); i++) {
+      int code = x.step(i, 0);
+      all.append(i == 0 ? "" : ", ").append(CODES[code]);
+      for (int what = 1; what <= 4; what++) {
+        if (what <= NUMBERS[code]) {
+          all.append(' ').append(x.step(i, what));
+        } else {
+          due("step(" + i + ", " + what + ") that there is not", x.step(i, what), 0);
+        }
+      }
+      all.append(" :").append(x.step(i, 5));
+    }
+    return all.toString();
+  }
+
+  static void code(String text, int limit, String want) {
+    due("code of " + text + " with " + limit, code(lowered(text, limit)), want);
+  }
+
+  static String repeat(String part, int times) {
+    return part.repeat(times);
+  }
+}
