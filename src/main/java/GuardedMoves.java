@@ -57,19 +57,12 @@ public final class GuardedMoves {
 
     private final int[] putVariables = new int[VARIABLES];
     private final int[] putWords = new int[WORDS];
-    private final int[] tape = new int[TAPE_BYTES];
-    private int tapeLength = 0;
-    private int latestFault = 0;
-    // Read into the spare text first: a faulty tape must leave the text alone.
+    private final TextReader reader = new TextReader();
     private Text text = new Text();
-    private Text spareText = new Text();
-    private final TextReader reader = new TextReader(tape, spareText);
-    private final Code code = new Code();
+    private final Lowering lowering = new Lowering();
+    private final Code code = lowering.code;
     private boolean hasCode = false;
-    private final Lowering lowering = new Lowering(text, code);
-    private final Outcome outcome = new Outcome();
-    private final TextRun textRun = new TextRun(text, outcome);
-    private final CodeRun codeRun = new CodeRun(code, outcome);
+    private final LatestRun latest = new LatestRun();
 
     public GuardedMoves() {
     }
@@ -92,32 +85,26 @@ public final class GuardedMoves {
         if (n < 1 || n > 8) {
             throw new IllegalArgumentException("1 to 8 bytes can be fed");
         }
-        if (tapeLength + n > TAPE_BYTES) {
+        if (reader.length + n > TAPE_BYTES) {
             throw new IllegalStateException("the tape would be too long");
         }
         for (int i = n - 1; i >= 0; i--) {
-            tape[tapeLength] = (int) (bytes >>> (8 * i)) & 255;
-            tapeLength++;
+            reader.append((int) (bytes >>> (8 * i)) & 255);
         }
-        return tapeLength;
+        return reader.length;
     }
 
     public int read() {
-        boolean whole = reader.takeTape(tapeLength, spareText);
-        latestFault = reader.fault;
-        if (!whole) {
+        if (!reader.takeTape()) {
             return -1 - reader.faultPlace;
         }
-        Text before = text;
-        text = spareText;
-        spareText = before;
-        tapeLength = 0;
+        text = reader.handOver(text);
         hasCode = false;
         return text.size;
     }
 
     public int fault() {
-        return latestFault;
+        return reader.fault;
     }
 
     public int statement(int s, int what) throws IndexOutOfBoundsException, IllegalArgumentException {
@@ -162,39 +149,39 @@ public final class GuardedMoves {
     }
 
     public int tell() {
-        outcome.begin(putVariables, putWords);
-        textRun.doText(text);
-        return outcome.ended;
+        latest.begin(putVariables, putWords);
+        latest.doText(text);
+        return latest.ended;
     }
 
     public int run() throws IllegalStateException {
         if (!hasCode) {
             throw new IllegalStateException("there is no code");
         }
-        outcome.begin(putVariables, putWords);
-        codeRun.doCode();
-        return outcome.ended;
+        latest.begin(putVariables, putWords);
+        latest.doCode(code);
+        return latest.ended;
     }
 
     public int left(int v) throws IndexOutOfBoundsException {
         if (v < 0 || v >= VARIABLES) {
             throw new IndexOutOfBoundsException("no such variable");
         }
-        return outcome.variables[v];
+        return latest.register[v];
     }
 
     public int kept(int i) throws IndexOutOfBoundsException {
         if (i < 0 || i >= WORDS) {
             throw new IndexOutOfBoundsException("no such word");
         }
-        return outcome.words[i];
+        return latest.words[i];
     }
 
     public int output(int i) throws IndexOutOfBoundsException {
-        if (i < 0 || i >= outcome.told) {
+        if (i < 0 || i >= latest.outputs) {
             throw new IndexOutOfBoundsException("no such number of the output");
         }
-        return outcome.output[i];
+        return latest.output[i];
     }
 
     public int count(int what) throws IllegalArgumentException {
@@ -210,13 +197,13 @@ public final class GuardedMoves {
             case 4:
                 return hasCode ? lowering.convertedBranches() : 0;
             case 5:
-                return outcome.told;
+                return latest.outputs;
             case 6:
-                return tapeLength;
+                return reader.length;
             case 7:
-                return outcome.where;
+                return latest.where;
             case 8:
-                return outcome.did;
+                return latest.did;
             default:
                 throw new IllegalArgumentException("nothing such is counted");
         }
@@ -298,27 +285,36 @@ public final class GuardedMoves {
         private static final int END = -1;
         private static final long TOO_LARGE = 2147483648L;
 
-        private final int[] tape;
+        private final int[] tape = new int[TAPE_BYTES];
+        int length = 0;
+        // Not the text of the face: a tape with a fault must leave that one alone.
+        private Text text = new Text();
         private final int[] openBranch = new int[DEEPEST];
         private final boolean[] inSecond = new boolean[DEEPEST];
-        private Text text;
-        private int length = 0;
-        private int place = 0;
         private int open = 0;
+        private int place = 0;
         int fault = 0;
         int faultPlace = 0;
 
-        TextReader(int[] tape, Text text) {
-            this.tape = tape;
-            this.text = text;
+        void append(int next) {
+            if (length < TAPE_BYTES) {
+                tape[length] = next;
+                length++;
+            }
         }
 
-        boolean takeTape(int bytes, Text into) {
-            text = into;
+        /** Gives the text that was read, empties the tape, and takes another text to read into from now on. */
+        Text handOver(Text another) {
+            Text made = text;
+            text = another;
+            length = 0;
+            return made;
+        }
+
+        boolean takeTape() {
             text.size = 0;
-            length = bytes;
-            place = 0;
             open = 0;
+            place = 0;
             fault = 0;
             faultPlace = 0;
             // Each round takes a byte at least, or ends the reading.
@@ -626,9 +622,8 @@ public final class GuardedMoves {
 
     /** Makes code of a text: first it finds which branches are converted, then it lowers the whole. */
     private static final class Lowering {
+        final Code code = new Code();
         final boolean[] converted = new boolean[STATEMENTS];
-        private final Code code;
-        private Text text;
         // The registers that stand for the variables now; by level those from before a branch, and behind its first side.
         private final int[] standing = new int[VARIABLES];
         private final int[][] before = new int[DEEPEST][VARIABLES];
@@ -636,27 +631,22 @@ public final class GuardedMoves {
         // NONE outside of converted sides.
         private int guard = NONE;
 
-        Lowering(Text text, Code code) {
-            this.text = text;
-            this.code = code;
-        }
-
         int convertedBranches() {
             int found = 0;
-            for (int s = 0; s < text.size; s++) {
+            for (int s = 0; s < STATEMENTS; s++) {
                 found += converted[s] ? 1 : 0;
             }
             return found;
         }
 
-        void makeCode(Text ofText, int limit) {
-            text = ofText;
+        void makeCode(Text text, int limit) {
+            Arrays.fill(converted, false);
             // Inner branches have higher numbers, so they are settled ahead of those round them.
             for (int s = text.size - 1; s >= 0; s--) {
-                converted[s] = text.sort[s] == SORT_BRANCH && allInsideConvert(s) && stepsAlone(s) <= limit;
+                converted[s] = mayConvert(text, s) && stepsAlone(text, s) <= limit;
             }
             beginCode();
-            lowerRange(0, text.size, 0);
+            lowerRange(text, 0, text.size, 0);
         }
 
         private void beginCode() {
@@ -667,44 +657,44 @@ public final class GuardedMoves {
             }
         }
 
-        private boolean allInsideConvert(int branch) {
+        private boolean mayConvert(Text text, int branch) {
             for (int s = branch + 1; s < text.end[branch]; s++) {
                 boolean staysBranch = text.sort[s] == SORT_BRANCH && !converted[s];
                 if (staysBranch || text.sort[s] == SORT_TELL) {
                     return false;
                 }
             }
-            return true;
+            return text.sort[branch] == SORT_BRANCH;
         }
 
-        private int stepsAlone(int branch) {
+        private int stepsAlone(Text text, int branch) {
             beginCode();
-            convert(branch, 0);
+            convert(text, branch, 0);
             return code.steps;
         }
 
-        private void lowerRange(int from, int to, int level) {
+        private void lowerRange(Text text, int from, int to, int level) {
             for (int s = from; s < to; s = Math.max(s + 1, text.end[s])) {
-                lowerOne(s, level);
+                lowerOne(text, s, level);
             }
         }
 
-        private void lowerOne(int s, int level) {
+        private void lowerOne(Text text, int s, int level) {
             code.statement = s;
-            if (text.sort[s] != SORT_BRANCH) {
-                if (guard == NONE) {
-                    lowerPlainly(s);
+            if (text.sort[s] == SORT_BRANCH) {
+                if (converted[s]) {
+                    convert(text, s, level);
                 } else {
-                    lowerGuarded(s);
+                    lowerWithJumps(text, s, level);
                 }
-            } else if (converted[s]) {
-                convert(s, level);
+            } else if (guard == NONE) {
+                lowerPlainly(text, s);
             } else {
-                lowerWithJumps(s, level);
+                lowerGuarded(text, s);
             }
         }
 
-        private int valueRegister(int slot) {
+        private int valueRegister(Text text, int slot) {
             return text.named[slot] ? standing[text.number[slot]] : setNew(text.number[slot]);
         }
 
@@ -712,31 +702,31 @@ public final class GuardedMoves {
             return code.addToNew(SET, number, 0, 0);
         }
 
-        private int testRegister(int branch) {
-            int first = valueRegister(2 * branch);
-            int second = valueRegister(2 * branch + 1);
+        private int testRegister(Text text, int branch) {
+            int first = valueRegister(text, 2 * branch);
+            int second = valueRegister(text, 2 * branch + 1);
             return code.addToNew(text.operation[branch], first, second, 0);
         }
 
-        private void lowerPlainly(int s) {
+        private void lowerPlainly(Text text, int s) {
             int target = text.target[s];
             if (text.sort[s] == SORT_VALUE && !text.named[2 * s]) {
                 code.add(SET, target, text.number[2 * s], 0, 0);
                 return;
             }
-            int first = valueRegister(2 * s);
+            int first = valueRegister(text, 2 * s);
             switch (text.sort[s]) {
                 case SORT_VALUE:
                     code.add(MOVE, target, first, 0, 0);
                     break;
                 case SORT_OPERATION:
-                    code.add(text.operation[s], target, first, valueRegister(2 * s + 1), 0);
+                    code.add(text.operation[s], target, first, valueRegister(text, 2 * s + 1), 0);
                     break;
                 case SORT_READ:
                     code.add(LOAD, target, first, 0, 0);
                     break;
                 case SORT_WRITE:
-                    code.add(STORE, first, valueRegister(2 * s + 1), 0, 0);
+                    code.add(STORE, first, valueRegister(text, 2 * s + 1), 0, 0);
                     break;
                 default:
                     code.add(TELL, first, 0, 0, 0);
@@ -744,13 +734,12 @@ public final class GuardedMoves {
             }
         }
 
-        private void lowerWithJumps(int branch, int level) {
+        private void lowerWithJumps(Text text, int branch, int level) {
             if (level >= DEEPEST) {
                 return;
             }
-            int test = testRegister(branch);
-            int overFirst = code.add(JUMPNOT, test, 0, 0, 0);
-            lowerRange(branch + 1, text.second[branch], level + 1);
+            int overFirst = code.add(JUMPNOT, testRegister(text, branch), 0, 0, 0);
+            lowerRange(text, branch + 1, text.second[branch], level + 1);
             if (text.second[branch] == text.end[branch]) {
                 code.leadHere(overFirst);
                 return;
@@ -758,68 +747,68 @@ public final class GuardedMoves {
             code.statement = branch;
             int overSecond = code.add(JUMP, 0, 0, 0, 0);
             code.leadHere(overFirst);
-            lowerRange(text.second[branch], text.end[branch], level + 1);
+            lowerRange(text, text.second[branch], text.end[branch], level + 1);
             code.leadHere(overSecond);
         }
 
-        private void lowerGuarded(int s) {
-            int first = valueRegister(2 * s);
+        private void lowerGuarded(Text text, int s) {
             int target = text.target[s];
+            int first = valueRegister(text, 2 * s);
             switch (text.sort[s]) {
                 case SORT_VALUE:
                     standing[target] = first;
                     break;
                 case SORT_OPERATION:
-                    standing[target] = guardedOperation(s, first);
+                    standing[target] = guardedOperation(text, s, first);
                     break;
                 case SORT_READ:
-                    standing[target] = code.addToNew(LOAD, harmlessIndex(2 * s, first), 0, 0);
+                    standing[target] = code.addToNew(LOAD, guardedIndex(text, 2 * s, first), 0, 0);
                     break;
                 default:
-                    guardedWrite(s, first);
+                    guardedWrite(text, s, first);
                     break;
             }
         }
 
-        private int guardedOperation(int s, int first) {
+        private int guardedOperation(Text text, int s, int first) {
             int slot = 2 * s + 1;
-            int second = valueRegister(slot);
+            int second = valueRegister(text, slot);
             boolean maybeZero = text.named[slot] || text.number[slot] == 0;
             if (divides(text.operation[s]) && maybeZero) {
-                second = orElse(second, 1);
+                second = guardedOr(second, 1);
             }
             return code.addToNew(text.operation[s], first, second, 0);
         }
 
-        private int harmlessIndex(int slot, int index) {
-            boolean sure = !text.named[slot] && isWord(text.number[slot]);
-            return sure ? index : orElse(index, 0);
+        private int guardedIndex(Text text, int slot, int index) {
+            boolean surelyWord = !text.named[slot] && isWord(text.number[slot]);
+            return surelyWord ? index : guardedOr(index, 0);
         }
 
-        private int orElse(int register, int harmless) {
+        private int guardedOr(int register, int harmless) {
             int other = setNew(harmless);
             return code.addToNew(CHOOSE, guard, register, other);
         }
 
-        private void guardedWrite(int s, int index) {
-            int value = valueRegister(2 * s + 1);
-            int place = harmlessIndex(2 * s, index);
-            int word = code.addToNew(LOAD, place, 0, 0);
+        private void guardedWrite(Text text, int s, int first) {
+            int value = valueRegister(text, 2 * s + 1);
+            int index = guardedIndex(text, 2 * s, first);
+            int word = code.addToNew(LOAD, index, 0, 0);
             int chosen = code.addToNew(CHOOSE, guard, value, word);
-            code.add(STORE, place, chosen, 0, 0);
+            code.add(STORE, index, chosen, 0, 0);
         }
 
-        private void convert(int branch, int level) {
+        private void convert(Text text, int branch, int level) {
             if (level >= DEEPEST) {
                 return;
             }
             code.statement = branch;
             int outerGuard = guard;
-            int test = testRegister(branch);
+            int test = testRegister(text, branch);
             System.arraycopy(standing, 0, before[level], 0, VARIABLES);
             if (branch + 1 < text.second[branch]) {
                 guard = guardWithin(outerGuard, test);
-                lowerRange(branch + 1, text.second[branch], level + 1);
+                lowerRange(text, branch + 1, text.second[branch], level + 1);
             }
             System.arraycopy(standing, 0, behindFirst[level], 0, VARIABLES);
             System.arraycopy(before[level], 0, standing, 0, VARIABLES);
@@ -827,10 +816,10 @@ public final class GuardedMoves {
             if (text.second[branch] < text.end[branch]) {
                 int zero = setNew(0);
                 guard = guardWithin(outerGuard, code.addToNew(EQUAL, test, zero, 0));
-                lowerRange(text.second[branch], text.end[branch], level + 1);
+                lowerRange(text, text.second[branch], text.end[branch], level + 1);
             }
-            guard = outerGuard;
             code.statement = branch;
+            guard = outerGuard;
             chooseSides(test, level);
             if (outerGuard == NONE) {
                 moveBack();
@@ -861,154 +850,102 @@ public final class GuardedMoves {
         }
     }
 
-    /** What the latest run left. */
-    private static final class Outcome {
-        final int[] variables = new int[VARIABLES];
+    /** Does texts as they are told, and code, and keeps what the latest run left. */
+    private static final class LatestRun {
+        // The variables come first, as in the code.
+        final int[] register = new int[VARIABLES + STEPS];
         final int[] words = new int[WORDS];
         final int[] output = new int[STATEMENTS];
-        int told = 0;
+        int outputs = 0;
         int ended = WELL;
         int where = NONE;
         int did = 0;
 
         void begin(int[] putVariables, int[] putWords) {
-            System.arraycopy(putVariables, 0, variables, 0, VARIABLES);
+            Arrays.fill(register, 0);
+            System.arraycopy(putVariables, 0, register, 0, VARIABLES);
             System.arraycopy(putWords, 0, words, 0, WORDS);
-            told = 0;
+            outputs = 0;
             ended = WELL;
             where = NONE;
             did = 0;
         }
 
-        void end(int how, int statement) {
-            ended = how;
-            where = statement;
+        void doText(Text text) {
+            doRange(text, 0, text.size, 0);
         }
 
-        void add(int number) {
-            if (told < STATEMENTS) {
-                output[told] = number;
-                told++;
-            }
-        }
-    }
-
-    /** Does a text as it is told. */
-    private static final class TextRun {
-        private final Outcome outcome;
-        private Text text;
-
-        TextRun(Text text, Outcome outcome) {
-            this.text = text;
-            this.outcome = outcome;
-        }
-
-        void doText(Text ofText) {
-            text = ofText;
-            doRange(0, text.size, 0);
-        }
-
-        private void doRange(int from, int to, int level) {
-            for (int s = from; s < to && outcome.ended == WELL; s = Math.max(s + 1, text.end[s])) {
-                outcome.did++;
+        private void doRange(Text text, int from, int to, int level) {
+            for (int s = from; s < to && ended == WELL; s = Math.max(s + 1, text.end[s])) {
+                did++;
                 if (text.sort[s] == SORT_BRANCH) {
-                    doBranch(s, level);
+                    doBranch(text, s, level);
                 } else {
-                    doSimple(s);
+                    doSimple(text, s);
                 }
             }
         }
 
-        private void doBranch(int s, int level) {
+        private void doBranch(Text text, int s, int level) {
             if (level >= DEEPEST) {
                 return;
             }
-            if (resultOf(text.operation[s], valueOf(2 * s), valueOf(2 * s + 1)) != 0) {
-                doRange(s + 1, text.second[s], level + 1);
+            if (resultOf(text.operation[s], valueOf(text, 2 * s), valueOf(text, 2 * s + 1)) != 0) {
+                doRange(text, s + 1, text.second[s], level + 1);
             } else {
-                doRange(text.second[s], text.end[s], level + 1);
+                doRange(text, text.second[s], text.end[s], level + 1);
             }
         }
 
-        private int valueOf(int slot) {
-            return text.named[slot] ? outcome.variables[text.number[slot]] : text.number[slot];
+        private int valueOf(Text text, int slot) {
+            return text.named[slot] ? register[text.number[slot]] : text.number[slot];
         }
 
-        private void doSimple(int s) {
-            int first = valueOf(2 * s);
-            int target = text.target[s];
+        private void doSimple(Text text, int s) {
+            int first = valueOf(text, 2 * s);
             switch (text.sort[s]) {
                 case SORT_VALUE:
-                    outcome.variables[target] = first;
+                    register[text.target[s]] = first;
                     break;
                 case SORT_OPERATION:
-                    doOperation(s, first, valueOf(2 * s + 1));
+                    reach(text.operation[s], text.target[s], first, valueOf(text, 2 * s + 1), s);
                     break;
                 case SORT_READ:
-                    if (isWord(first)) {
-                        outcome.variables[target] = outcome.words[first];
-                    } else {
-                        outcome.end(INDEX, s);
-                    }
+                    load(text.target[s], first, s);
                     break;
                 case SORT_WRITE:
-                    if (isWord(first)) {
-                        outcome.words[first] = valueOf(2 * s + 1);
-                    } else {
-                        outcome.end(INDEX, s);
-                    }
+                    store(first, valueOf(text, 2 * s + 1), s);
                     break;
                 default:
-                    outcome.add(first);
+                    say(first);
                     break;
             }
         }
 
-        private void doOperation(int s, int first, int second) {
-            if (divides(text.operation[s]) && second == 0) {
-                outcome.end(DIVISION, s);
-            } else {
-                outcome.variables[text.target[s]] = resultOf(text.operation[s], first, second);
-            }
-        }
-    }
-
-    /** Does code, step by step. */
-    private static final class CodeRun {
-        private final Code code;
-        private final Outcome outcome;
-        private final int[] register = new int[VARIABLES + STEPS];
-
-        CodeRun(Code code, Outcome outcome) {
-            this.code = code;
-            this.outcome = outcome;
-        }
-
-        void doCode() {
-            Arrays.fill(register, 0);
-            System.arraycopy(outcome.variables, 0, register, 0, VARIABLES);
+        void doCode(Code code) {
             int next = 0;
-            // Jumps lead onward alone.
-            for (int i = 0; i < code.steps && outcome.ended == WELL; i = Math.max(i + 1, next)) {
-                outcome.did++;
-                next = nextBehind(i);
-                doStep(i);
+            // Jumps lead onward alone, so each round comes nearer to the last step.
+            for (int i = 0; i < code.steps && ended == WELL; i = Math.max(i + 1, next)) {
+                did++;
+                next = nextBehind(code, i);
+                doStep(code, i);
             }
-            System.arraycopy(register, 0, outcome.variables, 0, VARIABLES);
         }
 
-        private int nextBehind(int i) {
+        private int nextBehind(Code code, int i) {
             if (code.rows[0][i] == JUMP) {
                 return code.rows[1][i];
             }
-            boolean jumps = code.rows[0][i] == JUMPNOT && register[code.rows[1][i]] == 0;
-            return jumps ? code.rows[2][i] : i + 1;
+            boolean leads = code.rows[0][i] == JUMPNOT && register[code.rows[1][i]] == 0;
+            return leads ? code.rows[2][i] : i + 1;
         }
 
-        private void doStep(int i) {
+        private void doStep(Code code, int i) {
+            int kind = code.rows[0][i];
             int first = code.rows[1][i];
             int second = code.rows[2][i];
-            switch (code.rows[0][i]) {
+            int s = code.rows[Code.TOLD][i];
+            switch (kind) {
                 case SET:
                     register[first] = second;
                     break;
@@ -1019,50 +956,57 @@ public final class GuardedMoves {
                     register[first] = register[register[second] != 0 ? code.rows[3][i] : code.rows[4][i]];
                     break;
                 case LOAD:
-                    load(i, first, register[second]);
+                    load(first, register[second], s);
                     break;
                 case STORE:
-                    store(i, register[first], register[second]);
+                    store(register[first], register[second], s);
                     break;
                 case JUMP:
                 case JUMPNOT:
                     break;
                 case TELL:
-                    outcome.add(register[first]);
+                    say(register[first]);
                     break;
                 default:
-                    reach(i, register[second], register[code.rows[3][i]]);
+                    reach(kind, first, register[second], register[code.rows[3][i]], s);
                     break;
             }
         }
 
-        private void load(int i, int target, int index) {
-            if (isWord(index)) {
-                register[target] = outcome.words[index];
-            } else {
-                end(INDEX, i);
-            }
-        }
-
-        private void store(int i, int index, int value) {
-            if (isWord(index)) {
-                outcome.words[index] = value;
-            } else {
-                end(INDEX, i);
-            }
-        }
-
-        private void reach(int i, int a, int b) {
-            int operation = code.rows[0][i];
+        private void reach(int operation, int target, int a, int b, int s) {
             if (divides(operation) && b == 0) {
-                end(DIVISION, i);
+                end(DIVISION, s);
             } else {
-                register[code.rows[1][i]] = resultOf(operation, a, b);
+                register[target] = resultOf(operation, a, b);
             }
         }
 
-        private void end(int how, int i) {
-            outcome.end(how, code.rows[Code.TOLD][i]);
+        private void load(int target, int index, int s) {
+            if (isWord(index)) {
+                register[target] = words[index];
+            } else {
+                end(INDEX, s);
+            }
+        }
+
+        private void store(int index, int value, int s) {
+            if (isWord(index)) {
+                words[index] = value;
+            } else {
+                end(INDEX, s);
+            }
+        }
+
+        private void say(int number) {
+            if (outputs < STATEMENTS) {
+                output[outputs] = number;
+                outputs++;
+            }
+        }
+
+        private void end(int how, int s) {
+            ended = how;
+            where = s;
         }
     }
 }
