@@ -8,6 +8,8 @@ public final class ReadTest {
     deepBranches();
     aFaultChangesNothing();
     aTextTakesTheOldOnesPlace();
+    nothingOfOldTextsStays();
+    theTapesEndIsTheEnd();
     Check.end();
   }
 
@@ -181,5 +183,58 @@ public final class ReadTest {
     Check.due("count(0)", x.count(0), 0);
     x.tell();
     Check.due("left(1)", x.left(1), 0);
+  }
+
+  /** Reads text upon text with one object: each must be as with a new one. */
+  private static void nothingOfOldTextsStays() {
+    String[] texts = {
+      "?a<b{?c<d{}{}}{?e<f{g=h;}}?a<b{a=1;}",
+      "@1=2;!a;a=@b;a=b+c;a=-3;?a=b{}",
+      "a=1;b=c;c=d%e;?a=b{c=2;}",
+      "b=a;a=2;d=4;?b#a{}{a=b;}",
+      "?a<1{b=2;?b<3{c=4;}}",
+      "a=1;",
+      "a=b;a=b;a=b;a=b;a=b;a=b;a=b;"
+    };
+    for (int begin = 0; begin < texts.length; begin++) {
+      GuardedMoves x = new GuardedMoves();
+      for (int i = 0; i < texts.length; i++) {
+        String text = texts[(begin + i * 3) % texts.length];
+        Check.feed(x, text);
+        x.read();
+        x.lower(400);
+        GuardedMoves y = Check.lowered(text, 400);
+        Check.due("code of " + text + " behind others", Check.code(x), Check.code(y));
+        Check.due("statements of " + text + " behind others", rows(x), rows(y));
+        Check.due("tell() of " + text + " behind others", x.tell(), y.tell());
+        for (int what = 0; what <= 8; what++) {
+          Check.due("count(" + what + ") of " + text + " behind others", x.count(what), y.count(what));
+        }
+      }
+    }
+  }
+
+  private static String rows(GuardedMoves x) {
+    StringBuilder all = new StringBuilder();
+    for (int s = 0; s < x.count(0); s++) {
+      for (int what = 0; what < 4; what++) {
+        all.append(x.statement(s, what)).append(what == 3 ? ", " : " ");
+      }
+    }
+    return all.toString();
+  }
+
+  private static void theTapesEndIsTheEnd() {
+    GuardedMoves x = Check.of("a=12345;");
+    Check.feed(x, "a=1");
+    Check.due("read() of a=1 upon an old tape", x.read(), -4);
+    Check.feed(x, ";");
+    Check.due("read() of a=1;", x.read(), 1);
+    x.tell();
+    Check.due("left(0)", x.left(0), 1);
+    bad("a=" + Check.repeat("0", 598), 1, 600);
+    bad("a=" + Check.repeat(" ", 598), 1, 600);
+    good(Check.repeat(" ", 596) + "a=1;", 1);
+    good(Check.repeat("?a=b{}", 60) + Check.repeat("\n", 240), 60);
   }
 }
