@@ -588,7 +588,9 @@ public final class GuardedMoves {
         // A register is set ahead of all that take it, so one way from the back finds those, too, that only useless
         // steps take.
         private void findUseless() {
-            Arrays.fill(taken, false);
+            for (int register = 0; register < taken.length; register++) {
+                taken[register] = false;
+            }
             for (int i = steps - 1; i >= 0; i--) {
                 stays[i] = !mayGo(i) || taken[rows[1][i]];
                 if (stays[i]) {
@@ -640,7 +642,9 @@ public final class GuardedMoves {
         }
 
         void makeCode(Text text, int limit) {
-            Arrays.fill(converted, false);
+            for (int s = 0; s < STATEMENTS; s++) {
+                converted[s] = false;
+            }
             // Inner branches have higher numbers, so they are settled ahead of those round them.
             for (int s = text.size - 1; s >= 0; s--) {
                 converted[s] = mayConvert(text, s) && stepsAlone(text, s) <= limit;
@@ -762,10 +766,12 @@ public final class GuardedMoves {
                     standing[target] = guardedOperation(text, s, first);
                     break;
                 case SORT_READ:
-                    standing[target] = code.addToNew(LOAD, guardedIndex(text, 2 * s, first), 0, 0);
+                    int index = harmless(first, isSurelyWord(text, 2 * s), 0);
+                    standing[target] = code.addToNew(LOAD, index, 0, 0);
                     break;
                 default:
-                    guardedWrite(text, s, first);
+                    int value = valueRegister(text, 2 * s + 1);
+                    guardedWrite(harmless(first, isSurelyWord(text, 2 * s), 0), value);
                     break;
             }
         }
@@ -774,28 +780,27 @@ public final class GuardedMoves {
             int slot = 2 * s + 1;
             int second = valueRegister(text, slot);
             boolean maybeZero = text.named[slot] || text.number[slot] == 0;
-            if (divides(text.operation[s]) && maybeZero) {
-                second = guardedOr(second, 1);
-            }
-            return code.addToNew(text.operation[s], first, second, 0);
+            boolean cannotFail = !divides(text.operation[s]) || !maybeZero;
+            return code.addToNew(text.operation[s], first, harmless(second, cannotFail, 1), 0);
         }
 
-        private int guardedIndex(Text text, int slot, int index) {
-            boolean surelyWord = !text.named[slot] && isWord(text.number[slot]);
-            return surelyWord ? index : guardedOr(index, 0);
-        }
-
-        private int guardedOr(int register, int harmless) {
-            int other = setNew(harmless);
-            return code.addToNew(CHOOSE, guard, register, other);
-        }
-
-        private void guardedWrite(Text text, int s, int first) {
-            int value = valueRegister(text, 2 * s + 1);
-            int index = guardedIndex(text, 2 * s, first);
+        private void guardedWrite(int index, int value) {
             int word = code.addToNew(LOAD, index, 0, 0);
             int chosen = code.addToNew(CHOOSE, guard, value, word);
             code.add(STORE, index, chosen, 0, 0);
+        }
+
+        private static boolean isSurelyWord(Text text, int slot) {
+            return !text.named[slot] && isWord(text.number[slot]);
+        }
+
+        /** The register itself where it cannot fail, otherwise one that is the other number where the side is not meant. */
+        private int harmless(int register, boolean cannotFail, int otherwise) {
+            if (cannotFail) {
+                return register;
+            }
+            int other = setNew(otherwise);
+            return code.addToNew(CHOOSE, guard, register, other);
         }
 
         private void convert(Text text, int branch, int level) {

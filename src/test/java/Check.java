@@ -9,6 +9,7 @@ final class Check {
   private static final int[] NUMBERS = {2, 2, 3, 3, 3, 3, 3, 3, 3, 3, 3, 3, 3, 4, 2, 2, 1, 2, 1};
 
   private static int wrong = 0;
+  private static String sentence = "";
 
   private Check() {
   }
@@ -17,10 +18,15 @@ final class Check {
     void make();
   }
 
+  /** What is checked from now on stands in the document with these words. */
+  static void sentence(String words) {
+    sentence = "\"" + words + "\": ";
+  }
+
   static void due(String call, Object got, Object want) {
     if (!want.equals(got)) {
       wrong++;
-      System.out.println(call + " answered " + got + ", due is " + want);
+      System.out.println(sentence + call + " answered " + got + ", due is " + want);
     }
   }
 
@@ -84,6 +90,53 @@ final class Check {
     GuardedMoves x = of(text);
     x.lower(limit);
     return x;
+  }
+
+  static void good(String text, int statements) {
+    GuardedMoves x = fed(text);
+    due("read() of " + text, x.read(), statements);
+    due("fault() of " + text, x.fault(), 0);
+    due("count(0) of " + text, x.count(0), statements);
+    due("count(6) of " + text, x.count(6), 0);
+  }
+
+  static void bad(String text, int fault, int place) {
+    GuardedMoves x = fed(text);
+    due("read() of " + text, x.read(), -1 - place);
+    due("fault() of " + text, x.fault(), fault);
+    due("count(0) of " + text, x.count(0), 0);
+    due("count(6) of " + text, x.count(6), text.length());
+  }
+
+  /** All that can be asked of an object without changing it, in one row; fault() apart. */
+  static String answers(GuardedMoves x) {
+    StringBuilder all = new StringBuilder(code(x));
+    for (int s = 0; s < x.count(0); s++) {
+      for (int what = 0; what < 4; what++) {
+        all.append(what == 0 ? ", " : " ").append(x.statement(s, what));
+      }
+    }
+    for (int what = 0; what < 9; what++) {
+      all.append(", count ").append(x.count(what));
+    }
+    return all + left(x);
+  }
+
+  /** What the latest run left: the VARIABLES, THE MEMORY and the OUTPUT. */
+  static String left(GuardedMoves x) {
+    StringBuilder all = new StringBuilder(", left");
+    for (int v = 0; v < 16; v++) {
+      all.append(' ').append(x.left(v));
+    }
+    all.append(", kept");
+    for (int i = 0; i < 32; i++) {
+      all.append(' ').append(x.kept(i));
+    }
+    all.append(", output");
+    for (int i = 0; i < x.count(5); i++) {
+      all.append(' ').append(x.output(i));
+    }
+    return all.toString();
   }
 
   /** The whole code, a row a step: its name, its numbers, and the statement behind a colon. */

@@ -13,131 +13,115 @@ public final class ReadTest {
     Check.end();
   }
 
-  private static void good(String text, int statements) {
-    GuardedMoves x = Check.fed(text);
-    Check.due("read() of " + text, x.read(), statements);
-    Check.due("fault() of " + text, x.fault(), 0);
-    Check.due("count(0) of " + text, x.count(0), statements);
-    Check.due("count(6) of " + text, x.count(6), 0);
-  }
-
-  private static void bad(String text, int fault, int place) {
-    GuardedMoves x = Check.fed(text);
-    Check.due("read() of " + text, x.read(), -1 - place);
-    Check.due("fault() of " + text, x.fault(), fault);
-    Check.due("count(0) of " + text, x.count(0), 0);
-    Check.due("count(6) of " + text, x.count(6), text.length());
-  }
-
   private static void texts() {
-    good("", 0);
-    good(" \n ", 0);
-    good("a=1;", 1);
-    good("p=a;", 1);
-    good(" a\n= 1 ; b = - \n 3 - - 1 ;", 2);
-    good("a=b+1;a=b-c;a=1*-2;a=b/c;a=b%c;a=b&c;a=b|c;a=b^c;", 8);
-    good("a=@b;a = @ - 3;@a=b; @ -1 = 2 ;!a;!-7;", 6);
-    good("?a=b{}?a#1{}{}?-1<2{a=1;}{a=2;b=3;}", 6);
-    good("? a < b { } \n { ? c = d { ! a ; } { } }", 3);
-    good("?a=b{?a=b{}}?a=b{}", 3);
+    Check.good("", 0);
+    Check.good(" \n ", 0);
+    Check.good("a=1;", 1);
+    Check.good("p=a;", 1);
+    Check.good(" a\n= 1 ; b = - \n 3 - - 1 ;", 2);
+    Check.good("a=b+1;a=b-c;a=1*-2;a=b/c;a=b%c;a=b&c;a=b|c;a=b^c;", 8);
+    Check.good("a=@b;a = @ - 3;@a=b; @ -1 = 2 ;!a;!-7;", 6);
+    Check.good("?a=b{}?a#1{}{}?-1<2{a=1;}{a=2;b=3;}", 6);
+    Check.good("? a < b { } \n { ? c = d { ! a ; } { } }", 3);
+    Check.good("?a=b{?a=b{}}?a=b{}", 3);
   }
 
   private static void wrongBytes() {
-    bad("q=1;", 1, 0);
-    bad("A=1;", 1, 0);
-    bad("`=1;", 1, 0);
-    bad("1=a;", 1, 0);
-    bad(";", 1, 0);
-    bad("{", 1, 0);
-    bad("}", 1, 0);
-    bad("a", 1, 1);
-    bad("a ", 1, 2);
-    bad("a=", 1, 2);
-    bad("a=1", 1, 3);
-    bad("a=1\t;", 1, 3);
-    bad("a=1\r;", 1, 3);
-    bad("a=1 2;", 1, 4);
-    bad("a=1 99999999999;", 1, 4);
-    bad("a=b c;", 1, 4);
-    bad("a=bc;", 1, 3);
-    bad("a=--1;", 1, 3);
-    bad("a=-b;", 1, 3);
-    bad("a=+1;", 1, 2);
-    bad("a=b*;", 1, 4);
-    bad("a=b**c;", 1, 4);
-    bad("a=b+c+d;", 1, 5);
-    bad("a=b<c;", 1, 3);
-    bad("a=@b+1;", 1, 4);
-    bad("a=b+@1;", 1, 4);
-    bad("a=@@b;", 1, 3);
-    bad("a:=1;", 1, 1);
-    bad("@a;", 1, 2);
-    bad("@a=b+1;", 1, 4);
-    bad("@a=@b;", 1, 3);
-    bad("!a+1;", 1, 2);
-    bad("!@a;", 1, 1);
-    bad("?a{}", 1, 2);
-    bad("?a>b{}", 1, 2);
-    bad("?a==b{}", 1, 3);
-    bad("?a=b;", 1, 4);
-    bad("?a=b{", 1, 5);
-    bad("?a=b{ \n", 1, 7);
-    bad("?a=b{a=1;", 1, 9);
-    bad("?a=b{}}", 1, 6);
-    bad("?a=b{}{", 1, 7);
-    bad("?a=b{}{}{}", 1, 8);
-    bad("?a=b{};", 1, 6);
-    bad("?a=b{a=1}", 1, 8);
-    bad("?a=b{{}}", 1, 5);
-    bad("a=1;\u00ff", 1, 4);
-    bad("a=1;\0", 1, 4);
+    Check.bad("q=1;", 1, 0);
+    Check.bad("A=1;", 1, 0);
+    Check.bad("`=1;", 1, 0);
+    Check.bad("1=a;", 1, 0);
+    Check.bad(";", 1, 0);
+    Check.bad("{", 1, 0);
+    Check.bad("}", 1, 0);
+    Check.bad("a", 1, 1);
+    Check.bad("a ", 1, 2);
+    Check.bad("a=", 1, 2);
+    Check.bad("a=1", 1, 3);
+    Check.bad("a=1\t;", 1, 3);
+    Check.bad("a=1\r;", 1, 3);
+    Check.bad("a=1 2;", 1, 4);
+    Check.bad("a=1 99999999999;", 1, 4);
+    Check.bad("a=b c;", 1, 4);
+    Check.bad("a=bc;", 1, 3);
+    Check.bad("a=--1;", 1, 3);
+    Check.bad("a=-b;", 1, 3);
+    Check.bad("a=+1;", 1, 2);
+    Check.bad("a=b*;", 1, 4);
+    Check.bad("a=b**c;", 1, 4);
+    Check.bad("a=b+c+d;", 1, 5);
+    Check.bad("a=b<c;", 1, 3);
+    Check.bad("a=@b+1;", 1, 4);
+    Check.bad("a=b+@1;", 1, 4);
+    Check.bad("a=@@b;", 1, 3);
+    Check.bad("a:=1;", 1, 1);
+    Check.bad("@a;", 1, 2);
+    Check.bad("@a=b+1;", 1, 4);
+    Check.bad("@a=@b;", 1, 3);
+    Check.bad("!a+1;", 1, 2);
+    Check.bad("!@a;", 1, 1);
+    Check.bad("?a{}", 1, 2);
+    Check.bad("?a>b{}", 1, 2);
+    Check.bad("?a==b{}", 1, 3);
+    Check.bad("?a=b;", 1, 4);
+    Check.bad("?a=b{", 1, 5);
+    Check.bad("?a=b{ \n", 1, 7);
+    Check.bad("?a=b{a=1;", 1, 9);
+    Check.bad("?a=b{}}", 1, 6);
+    Check.bad("?a=b{}{", 1, 7);
+    Check.bad("?a=b{}{}{}", 1, 8);
+    Check.bad("?a=b{};", 1, 6);
+    Check.bad("?a=b{a=1}", 1, 8);
+    Check.bad("?a=b{{}}", 1, 5);
+    Check.bad("a=1;\u00ff", 1, 4);
+    Check.bad("a=1;\0", 1, 4);
   }
 
   private static void largeNumbers() {
-    good("a=2147483647;b=-2147483647;", 2);
-    good("a=" + Check.repeat("0", 500) + "7;", 1);
-    bad("a=2147483648;", 2, 2);
-    bad("a=-2147483648;", 2, 3);
-    bad("a= - 2147483648;", 2, 5);
-    bad("a=4294967296;", 2, 2);
-    bad("a=18446744073709551617;", 2, 2);
-    bad("a=" + Check.repeat("9", 590) + ";", 2, 2);
-    bad("a=9999999999", 2, 2);
-    bad("a=9999999999x", 2, 2);
-    bad("a=1+2147483648;", 2, 4);
-    bad("@2147483648=1;", 2, 1);
-    bad("!a;a=b;?a<3000000000{}", 2, 10);
+    Check.good("a=2147483647;b=-2147483647;", 2);
+    Check.good("a=" + Check.repeat("0", 500) + "7;", 1);
+    Check.bad("a=2147483648;", 2, 2);
+    Check.bad("a=-2147483648;", 2, 3);
+    Check.bad("a= - 2147483648;", 2, 5);
+    Check.bad("a=4294967296;", 2, 2);
+    Check.bad("a=18446744073709551617;", 2, 2);
+    Check.bad("a=" + Check.repeat("9", 590) + ";", 2, 2);
+    Check.bad("a=9999999999", 2, 2);
+    Check.bad("a=9999999999x", 2, 2);
+    Check.bad("a=1+2147483648;", 2, 4);
+    Check.bad("@2147483648=1;", 2, 1);
+    Check.bad("!a;a=b;?a<3000000000{}", 2, 10);
   }
 
   private static void manyStatements() {
     String sixty = Check.repeat("a=1;", 60);
-    good(sixty, 60);
-    good(sixty + " \n", 60);
-    bad(sixty + "a=1;", 3, 240);
-    bad(sixty + " a", 3, 241);
-    bad(sixty + "!", 3, 240);
-    bad(sixty + "@", 3, 240);
-    bad(sixty + "?", 3, 240);
-    bad(sixty + "x", 1, 240);
-    bad(sixty + "}", 1, 240);
+    Check.good(sixty, 60);
+    Check.good(sixty + " \n", 60);
+    Check.bad(sixty + "a=1;", 3, 240);
+    Check.bad(sixty + " a", 3, 241);
+    Check.bad(sixty + "!", 3, 240);
+    Check.bad(sixty + "@", 3, 240);
+    Check.bad(sixty + "?", 3, 240);
+    Check.bad(sixty + "x", 1, 240);
+    Check.bad(sixty + "}", 1, 240);
     String within = "?a=b{" + Check.repeat("a=1;", 59);
-    good(within + "}", 60);
-    bad(within + "a=1;}", 3, 241);
-    bad(within + "}{b=1;}", 3, 243);
-    good(within + "}{}", 60);
+    Check.good(within + "}", 60);
+    Check.bad(within + "a=1;}", 3, 241);
+    Check.bad(within + "}{b=1;}", 3, 243);
+    Check.good(within + "}{}", 60);
   }
 
   private static void deepBranches() {
     String six = Check.repeat("?a=b{", 6);
-    good(six + Check.repeat("}", 6), 6);
-    good(six + "a=1;" + Check.repeat("}", 6), 7);
-    good(six + "}}{?a=b{}}}}}}", 7);
-    bad(six + "?a=b{}", 4, 30);
-    bad(six + "a=1; ?", 4, 35);
-    bad(six + "}{?", 4, 32);
-    bad(six + "x", 1, 30);
-    bad(Check.repeat("a=1;", 54) + six + "?", 3, 246);
-    bad(Check.repeat("a=1;", 53) + six + "?", 4, 242);
+    Check.good(six + Check.repeat("}", 6), 6);
+    Check.good(six + "a=1;" + Check.repeat("}", 6), 7);
+    Check.good(six + "}}{?a=b{}}}}}}", 7);
+    Check.bad(six + "?a=b{}", 4, 30);
+    Check.bad(six + "a=1; ?", 4, 35);
+    Check.bad(six + "}{?", 4, 32);
+    Check.bad(six + "x", 1, 30);
+    Check.bad(Check.repeat("a=1;", 54) + six + "?", 3, 246);
+    Check.bad(Check.repeat("a=1;", 53) + six + "?", 4, 242);
   }
 
   private static void aFaultChangesNothing() {
@@ -232,9 +216,9 @@ public final class ReadTest {
     Check.due("read() of a=1;", x.read(), 1);
     x.tell();
     Check.due("left(0)", x.left(0), 1);
-    bad("a=" + Check.repeat("0", 598), 1, 600);
-    bad("a=" + Check.repeat(" ", 598), 1, 600);
-    good(Check.repeat(" ", 596) + "a=1;", 1);
-    good(Check.repeat("?a=b{}", 60) + Check.repeat("\n", 240), 60);
+    Check.bad("a=" + Check.repeat("0", 598), 1, 600);
+    Check.bad("a=" + Check.repeat(" ", 598), 1, 600);
+    Check.good(Check.repeat(" ", 596) + "a=1;", 1);
+    Check.good(Check.repeat("?a=b{}", 60) + Check.repeat("\n", 240), 60);
   }
 }
