@@ -807,7 +807,6 @@ public final class GuardedMoves {
             if (level >= DEEPEST) {
                 return;
             }
-            code.statement = branch;
             int outerGuard = guard;
             int test = testRegister(text, branch);
             System.arraycopy(standing, 0, before[level], 0, VARIABLES);

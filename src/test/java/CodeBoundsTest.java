@@ -130,7 +130,9 @@ public final class CodeBoundsTest {
       }
     }
     GuardedMoves y = Check.lowered("?a<b{!c;}{!d;}", 0);
-    int[][] due = {{12, 16, 0, 1, 0, 0}, {17, 16, 4, 0, 0, 0}, {18, 2, 0, 0, 0, 1}, {16, 5, 0, 0, 0, 0}, {18, 3, 0, 0, 0, 2}};
+    int[][] due = {
+      {12, 16, 0, 1, 0, 0}, {17, 16, 4, 0, 0, 0}, {18, 2, 0, 0, 0, 1}, {16, 5, 0, 0, 0, 0}, {18, 3, 0, 0, 0, 2}
+    };
     for (int i = 0; i < due.length; i++) {
       for (int what = 0; what < 6; what++) {
         Check.due("step(" + i + ", " + what + ")", y.step(i, what), due[i][what]);
@@ -241,6 +243,9 @@ public final class CodeBoundsTest {
     met("?a<b{c=@d;}", 6);
     met("?a<b{@c=d;}", 6);
     met("?a<b{?c<d{e=1;}}", 7);
+    met(SIX + CLOSED, 6 + 4);
+    met(SIX + "c=d;" + CLOSED, 6 + 5 + 6 + 1);
+    met(Check.repeat("?a<b{}{", 6) + "c=d;" + CLOSED, 6 + 12 + 5 + 6 + 1);
     met("?a<b{" + Check.repeat("@32=1;", 57) + "}", 400);
     converted("?1<b{" + Check.repeat("@32=1;", 57) + "}", 400, "0");
     Check.due("steps of 401, which stay jumps", Check.of("?1<b{" + Check.repeat("@32=1;", 57) + "}").lower(400), 3 + 57 * 3);

@@ -244,7 +244,9 @@ public final class PromiseBoundsTest {
 
   private static void nothingChanges() {
     Check.sentence("-1 less the place of its FAULT: nothing changes.");
-    String[] faulty = {"x", "a=1", "?a<b{!7;}{a=b;", "a=1;b=99999999999;", Check.repeat("!c;", 61), Check.repeat("?a=b{", 7)};
+    String[] faulty = {
+      "x", "a=1", "?a<b{!7;}{a=b;", "a=1;b=99999999999;", Check.repeat("!c;", 61), Check.repeat("?a=b{", 7)
+    };
     int[] places = {0, 3, 14, 6, 180, 30};
     int[] faults = {1, 1, 1, 2, 3, 4};
     for (int i = 0; i < faulty.length; i++) {
@@ -313,7 +315,9 @@ public final class PromiseBoundsTest {
 
   private static void sorts() {
     Check.sentence("its sort (what = 0: 0 = VALUE, 1 with OP, 2 = @, 3 @ =, 4 !, 5 ?)");
-    String[] texts = {"a=b;", "a=-1;", "a=b+c;", "a=-1--1;", "a=@b;", "a=@-1;", "@a=b;", "@-1=-1;", "!a;", "!-1;", "?a=b{}", "?1#1{}{}"};
+    String[] texts = {
+      "a=b;", "a=-1;", "a=b+c;", "a=-1--1;", "a=@b;", "a=@-1;", "@a=b;", "@-1=-1;", "!a;", "!-1;", "?a=b{}", "?1#1{}{}"
+    };
     for (int i = 0; i < texts.length; i++) {
       Check.due("statement(0, 0) of " + texts[i], Check.of(texts[i]).statement(0, 0), i / 2);
     }
@@ -453,6 +457,17 @@ public final class PromiseBoundsTest {
     Check.due("trim() again", x.trim(), 0);
     Check.due("run()", x.run(), 0);
     Check.due("count(8)", x.count(8), 5);
+    // of each CODE its own, whatever was trimmed before
+    GuardedMoves y = new GuardedMoves();
+    String[] texts = {"?1<2{a=3+4;}!5;", "?1<2{a=3;a=4;}", "!1;!2;!3;", "?1<2{}?3<4{}", "?a<b{}", ""};
+    int[] went = {0, 1, 0, 6, 1, 0};
+    for (int i = 0; i < 2 * texts.length; i++) {
+      int at = i * 5 % texts.length;
+      Check.feed(y, texts[at]);
+      y.read();
+      y.lower(400);
+      Check.due("trim() of " + texts[at] + " behind others", y.trim(), went[at]);
+    }
   }
 
   private static void jumpsTellWhereTheyLead() {
@@ -675,6 +690,15 @@ public final class PromiseBoundsTest {
     count(y, 60, 60, 76, 0, 60, 0, 0);
     y.lower(0);
     count(y, 60, 120, 76, 60, 0, 0, 0);
+    // of a text that is shorter than the one before, and of none
+    y.lower(400);
+    Check.feed(y, "?a=b{}");
+    y.read();
+    y.lower(400);
+    count(y, 1, 1, 17, 0, 1, 0, 0);
+    y.read();
+    y.lower(400);
+    count(y, 0, 0, 16, 0, 0, 0, 0);
   }
 
   private static void count(GuardedMoves x, int... due) {

@@ -160,9 +160,13 @@ public final class RunBoundsTest {
     trimmed("?a<b{c=@2;c=a;}", 0, "< 16 0 1 :0, SET 17 2 :1, LOAD 18 17 :1, " + String.format(rest, 19, 19));
     trimmed("?a<b{c=a/d;c=a;}", 0,
         "< 16 0 1 :0, SET 17 1 :1, CHOOSE 18 16 3 17 :1, / 19 0 18 :1, " + String.format(rest, 20, 20));
-    trimmed("?a<b{@2=3;}", 0, "< 16 0 1 :0, SET 17 2 :1, SET 18 3 :1, LOAD 19 17 :1, CHOOSE 20 16 18 19 :1, STORE 17 20 :1");
+    trimmed("?a<b{@2=3;}", 0,
+        "< 16 0 1 :0, SET 17 2 :1, SET 18 3 :1, LOAD 19 17 :1, CHOOSE 20 16 18 19 :1, STORE 17 20 :1");
     trimmed("?a<b{!1;}{!2;}", 0,
         "< 16 0 1 :0, JUMPNOT 16 5 :0, SET 17 1 :1, TELL 17 :1, JUMP 7 :0, SET 18 2 :2, TELL 18 :2");
+    // jumps over nothing stay, too
+    trimmed("?a<b{?1<2{}?c<d{!e;}}{?3<4{}}", 6,
+        "< 16 0 1 :0, JUMPNOT 16 6 :0, < 20 2 3 :2, JUMPNOT 20 5 :2, TELL 4 :3, JUMP 6 :0");
     // each other sort goes: SET, + - * & | ^, = # <, CHOOSE
     for (String op : new String[] {"+", "-", "*", "&", "|", "^"}) {
       trimmed("?a<b{c=d" + op + "e;c=a;}", 1, "< 16 0 1 :0, " + String.format(rest, 18, 18));
@@ -189,6 +193,19 @@ public final class RunBoundsTest {
     Check.sentence("that no other STEP names among what it takes");
     // both numbers of a REACH, the test of a JUMPNOT, what is told
     trimmed("?1<2{!3;}", 0, "SET 16 1 :0, SET 17 2 :0, < 18 16 17 :0, JUMPNOT 18 6 :0, SET 19 3 :1, TELL 19 :1");
+    for (String op : new String[] {"+", "-", "*", "/", "%", "&", "|", "^"}) {
+      trimmed("a=1" + op + "2;", 0, "SET 16 1 :0, SET 17 2 :0, " + op + " 0 16 17 :0");
+      trimmed("?a<b{c=1" + op + "2;}", 0,
+          "< 16 0 1 :0, SET 17 1 :1, SET 18 2 :1, " + op + " 19 17 18 :1, CHOOSE 20 16 19 2 :0, MOVE 2 20 :0");
+    }
+    for (String relation : new String[] {"=", "#", "<"}) {
+      trimmed("?1" + relation + "2{c=d;}", 0,
+          "SET 16 1 :0, SET 17 2 :0, " + relation + " 18 16 17 :0, CHOOSE 19 18 3 2 :0, MOVE 2 19 :0");
+    }
+    // the GUARD of a side and what it is made of
+    trimmed("?a<b{}{?c<d{}{@1=e;}}", 0,
+        "< 16 0 1 :0, SET 17 0 :0, = 18 16 17 :0, < 19 2 3 :1, SET 20 0 :1, = 21 19 20 :1, & 22 18 21 :1, SET 23 1 :2, "
+            + "LOAD 24 23 :2, CHOOSE 25 22 4 24 :2, STORE 23 25 :2");
     // both numbers of a STORE, the index of a LOAD
     trimmed("@1=2;a=@3;", 0, "SET 16 1 :0, SET 17 2 :0, STORE 16 17 :0, SET 18 3 :1, LOAD 0 18 :1");
     // all three of a CHOOSE, the number of a MOVE
@@ -215,6 +232,10 @@ public final class RunBoundsTest {
     Check.due("trim()", y.trim(), 3);
     Check.due("step(1, 2)", y.step(1, 2), 15);
     Check.due("count(1)", y.count(1), 16);
+    GuardedMoves z = Check.lowered("?1<2{}?a<b{" + Check.repeat("!a;", 11) + "}{!a;}", 400);
+    Check.due("step(16, 1) leads to a step with the number of a useless register", z.step(16, 1), 18);
+    Check.due("trim()", z.trim(), 3);
+    Check.due("step(13, 1)", z.step(13, 1), 15);
   }
 
   private static void noSuchOnes() {

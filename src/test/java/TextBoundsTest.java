@@ -493,6 +493,16 @@ public final class TextBoundsTest {
     String second = Check.repeat("?a=b{}{", 6);
     Check.good(second + Check.repeat("}", 6), 6);
     Check.bad(second + "?", 4, 42);
+    // in five others it is done as any
+    String first = Check.repeat("?a<b{", 6);
+    Both.says(first + "!1;" + Check.repeat("}{!2;}", 6), 0, 1, 1);
+    Both.says(first + "c=1/b;" + Check.repeat("}{c=@b;}", 6) + "!c;", 0, 1, 1);
+    Both.says(first + "c=1/b;" + Check.repeat("}{c=2;}", 6) + "!c;", 1, 0, 2);
+    Both.ends(first + "c=1/a;" + Check.repeat("}", 6), 0, 1, 1, 6, 0);
+    Both.says(Check.repeat("?b<a{}{", 6) + "!1;" + Check.repeat("}", 6), 0, 1, 1);
+    Both.says(Check.repeat("?b<a{}{", 6) + "c=1/b;" + Check.repeat("}", 6) + "!c;", 0, 1, 1);
+    Both.ends(Check.repeat("?b<a{}{", 6) + "@a=b;" + Check.repeat("}", 6), -1, 0, 2, 6, 0);
+    Both.says("?a<b{}{?a<b{}{?a<b{}{?b<a{?b<a{?b<a{!1;}}}}}}", 1, 0, 1);
   }
 
   private static void ofOnePlace() {
