@@ -500,6 +500,7 @@ public final class GuardedMoves {
     /** Steps, in rows: their codes, four rows of their numbers, and the statements that they tell. */
     private static final class Code {
         static final int ROWS = 6;
+        static final int NEW = -1;
         private static final int TOLD = 5;
         // By code: in which rows a step has the registers that it takes (none if the last is before the first).
         private static final int[] FIRST_TAKEN = {2, 2, 2, 2, 2, 2, 2, 2, 2, 2, 2, 2, 2, 2, 2, 1, 1, 1, 1};
@@ -518,25 +519,24 @@ public final class GuardedMoves {
             registers = VARIABLES;
         }
 
+        /** Adds a step and tells its first number; NEW makes that the next register. */
         int add(int kind, int first, int second, int third, int fourth) {
-            int i = steps;
-            if (i < STEPS) {
-                rows[0][i] = kind;
-                rows[1][i] = first;
-                rows[2][i] = second;
-                rows[3][i] = third;
-                rows[4][i] = fourth;
-                rows[TOLD][i] = statement;
-                steps++;
+            if (steps >= STEPS) {
+                return 0;
             }
-            return i;
-        }
-
-        int addToNew(int kind, int second, int third, int fourth) {
-            int register = registers;
-            registers++;
-            add(kind, register, second, third, fourth);
-            return register;
+            int named = first;
+            if (first == NEW) {
+                named = registers;
+                registers++;
+            }
+            rows[0][steps] = kind;
+            rows[1][steps] = named;
+            rows[2][steps] = second;
+            rows[3][steps] = third;
+            rows[4][steps] = fourth;
+            rows[TOLD][steps] = statement;
+            steps++;
+            return named;
         }
 
         void leadHere(int jump) {
@@ -626,7 +626,7 @@ public final class GuardedMoves {
     private static final class Lowering {
         final Code code = new Code();
         final boolean[] converted = new boolean[STATEMENTS];
-        // The registers that stand for the variables now; by level those from before a branch, and behind its first side.
+        // The registers that stand for the variables now; by level those before a branch, and behind its first side.
         private final int[] standing = new int[VARIABLES];
         private final int[][] before = new int[DEEPEST][VARIABLES];
         private final int[][] behindFirst = new int[DEEPEST][VARIABLES];
@@ -647,7 +647,11 @@ public final class GuardedMoves {
             }
             // Inner branches have higher numbers, so they are settled ahead of those round them.
             for (int s = text.size - 1; s >= 0; s--) {
-                converted[s] = mayConvert(text, s) && stepsAlone(text, s) <= limit;
+                if (mayConvert(text, s)) {
+                    beginCode();
+                    convert(text, s, 0);
+                    converted[s] = code.steps <= limit;
+                }
             }
             beginCode();
             lowerRange(text, 0, text.size, 0);
@@ -671,45 +675,30 @@ public final class GuardedMoves {
             return text.sort[branch] == SORT_BRANCH;
         }
 
-        private int stepsAlone(Text text, int branch) {
-            beginCode();
-            convert(text, branch, 0);
-            return code.steps;
-        }
-
         private void lowerRange(Text text, int from, int to, int level) {
             for (int s = from; s < to; s = Math.max(s + 1, text.end[s])) {
-                lowerOne(text, s, level);
-            }
-        }
-
-        private void lowerOne(Text text, int s, int level) {
-            code.statement = s;
-            if (text.sort[s] == SORT_BRANCH) {
+                code.statement = s;
                 if (converted[s]) {
                     convert(text, s, level);
-                } else {
+                } else if (text.sort[s] == SORT_BRANCH) {
                     lowerWithJumps(text, s, level);
+                } else if (guard == NONE) {
+                    lowerPlainly(text, s);
+                } else {
+                    lowerGuarded(text, s);
                 }
-            } else if (guard == NONE) {
-                lowerPlainly(text, s);
-            } else {
-                lowerGuarded(text, s);
             }
         }
 
         private int valueRegister(Text text, int slot) {
-            return text.named[slot] ? standing[text.number[slot]] : setNew(text.number[slot]);
-        }
-
-        private int setNew(int number) {
-            return code.addToNew(SET, number, 0, 0);
+            int number = text.number[slot];
+            return text.named[slot] ? standing[number] : code.add(SET, Code.NEW, number, 0, 0);
         }
 
         private int testRegister(Text text, int branch) {
             int first = valueRegister(text, 2 * branch);
             int second = valueRegister(text, 2 * branch + 1);
-            return code.addToNew(text.operation[branch], first, second, 0);
+            return code.add(text.operation[branch], Code.NEW, first, second, 0);
         }
 
         private void lowerPlainly(Text text, int s) {
@@ -742,14 +731,17 @@ public final class GuardedMoves {
             if (level >= DEEPEST) {
                 return;
             }
-            int overFirst = code.add(JUMPNOT, testRegister(text, branch), 0, 0, 0);
+            int test = testRegister(text, branch);
+            int overFirst = code.steps;
+            code.add(JUMPNOT, test, 0, 0, 0);
             lowerRange(text, branch + 1, text.second[branch], level + 1);
             if (text.second[branch] == text.end[branch]) {
                 code.leadHere(overFirst);
                 return;
             }
             code.statement = branch;
-            int overSecond = code.add(JUMP, 0, 0, 0, 0);
+            int overSecond = code.steps;
+            code.add(JUMP, 0, 0, 0, 0);
             code.leadHere(overFirst);
             lowerRange(text, text.second[branch], text.end[branch], level + 1);
             code.leadHere(overSecond);
@@ -763,44 +755,41 @@ public final class GuardedMoves {
                     standing[target] = first;
                     break;
                 case SORT_OPERATION:
-                    standing[target] = guardedOperation(text, s, first);
+                    int second = harmlessDivisor(text, s, valueRegister(text, 2 * s + 1));
+                    standing[target] = code.add(text.operation[s], Code.NEW, first, second, 0);
                     break;
                 case SORT_READ:
-                    int index = harmless(first, isSurelyWord(text, 2 * s), 0);
-                    standing[target] = code.addToNew(LOAD, index, 0, 0);
+                    int index = harmlessIndex(text, s, first);
+                    standing[target] = code.add(LOAD, Code.NEW, index, 0, 0);
                     break;
                 default:
                     int value = valueRegister(text, 2 * s + 1);
-                    guardedWrite(harmless(first, isSurelyWord(text, 2 * s), 0), value);
+                    guardedWrite(harmlessIndex(text, s, first), value);
                     break;
             }
         }
 
-        private int guardedOperation(Text text, int s, int first) {
-            int slot = 2 * s + 1;
-            int second = valueRegister(text, slot);
-            boolean maybeZero = text.named[slot] || text.number[slot] == 0;
-            boolean cannotFail = !divides(text.operation[s]) || !maybeZero;
-            return code.addToNew(text.operation[s], first, harmless(second, cannotFail, 1), 0);
+        /** The second VALUE's register, or, where that may be 0, one that is 1 while the side is not meant. */
+        private int harmlessDivisor(Text text, int s, int register) {
+            boolean maybeZero = text.named[2 * s + 1] || text.number[2 * s + 1] == 0;
+            return divides(text.operation[s]) && maybeZero ? chosenOr(register, 1) : register;
+        }
+
+        /** The first VALUE's register, or, where that may be no word, one that is 0 while the side is not meant. */
+        private int harmlessIndex(Text text, int s, int register) {
+            boolean surelyWord = !text.named[2 * s] && isWord(text.number[2 * s]);
+            return surelyWord ? register : chosenOr(register, 0);
+        }
+
+        private int chosenOr(int register, int harmless) {
+            int other = code.add(SET, Code.NEW, harmless, 0, 0);
+            return code.add(CHOOSE, Code.NEW, guard, register, other);
         }
 
         private void guardedWrite(int index, int value) {
-            int word = code.addToNew(LOAD, index, 0, 0);
-            int chosen = code.addToNew(CHOOSE, guard, value, word);
+            int word = code.add(LOAD, Code.NEW, index, 0, 0);
+            int chosen = code.add(CHOOSE, Code.NEW, guard, value, word);
             code.add(STORE, index, chosen, 0, 0);
-        }
-
-        private static boolean isSurelyWord(Text text, int slot) {
-            return !text.named[slot] && isWord(text.number[slot]);
-        }
-
-        /** The register itself where it cannot fail, otherwise one that is the other number where the side is not meant. */
-        private int harmless(int register, boolean cannotFail, int otherwise) {
-            if (cannotFail) {
-                return register;
-            }
-            int other = setNew(otherwise);
-            return code.addToNew(CHOOSE, guard, register, other);
         }
 
         private void convert(Text text, int branch, int level) {
@@ -818,8 +807,9 @@ public final class GuardedMoves {
             System.arraycopy(before[level], 0, standing, 0, VARIABLES);
             code.statement = branch;
             if (text.second[branch] < text.end[branch]) {
-                int zero = setNew(0);
-                guard = guardWithin(outerGuard, code.addToNew(EQUAL, test, zero, 0));
+                int zero = code.add(SET, Code.NEW, 0, 0, 0);
+                int isNot = code.add(EQUAL, Code.NEW, test, zero, 0);
+                guard = guardWithin(outerGuard, isNot);
                 lowerRange(text, text.second[branch], text.end[branch], level + 1);
             }
             code.statement = branch;
@@ -831,7 +821,7 @@ public final class GuardedMoves {
         }
 
         private int guardWithin(int outerGuard, int own) {
-            return outerGuard == NONE ? own : code.addToNew(AND, outerGuard, own, 0);
+            return outerGuard == NONE ? own : code.add(AND, Code.NEW, outerGuard, own, 0);
         }
 
         private void chooseSides(int test, int level) {
@@ -839,7 +829,7 @@ public final class GuardedMoves {
                 int first = behindFirst[level][v];
                 int second = standing[v];
                 if (first != before[level][v] || second != before[level][v]) {
-                    standing[v] = code.addToNew(CHOOSE, test, first, second);
+                    standing[v] = code.add(CHOOSE, Code.NEW, test, first, second);
                 }
             }
         }
