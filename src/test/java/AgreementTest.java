@@ -1,93 +1,24 @@
 import java.util.ArrayList;
 import java.util.List;
-import java.util.Random;
 
 /** Many made-up texts: told and run they must agree, and their code must be built and trimmed as the document says. */
 public final class AgreementTest {
   private static final int[] LIMITS = {0, 3, 6, 9, 14, 20, 40, 100, 400};
-  private static final int[] EDGES = {0, 0, 1, -1, 2, 31, 32, Integer.MIN_VALUE, Integer.MAX_VALUE};
 
-  private final Random random = new Random(20261115L);
-  private final List<String> branches = new ArrayList<>();
-  private int statements;
+  private final MadeUp madeUp = new MadeUp(20261115L);
 
   public static void main(String[] args) {
     AgreementTest test = new AgreementTest();
     for (int i = 0; i < 3000; i++) {
-      test.tryText(test.text());
+      test.tryText(test.madeUp.text());
     }
     test.largestCode();
     Check.end();
   }
 
-  private String text() {
-    String made;
-    do {
-      statements = 0;
-      branches.clear();
-      made = statements(0, 1 + random.nextInt(60));
-    } while (made.length() > 600);
-    return made;
-  }
-
-  private String statements(int depth, int most) {
-    StringBuilder all = new StringBuilder();
-    int many = 1 + random.nextInt(6);
-    for (int i = 0; i < many && statements < most; i++) {
-      all.append(random.nextInt(3) == 0 && depth < 6 ? branch(depth, most) : simple(depth));
-    }
-    return all.toString();
-  }
-
-  private String branch(int depth, int most) {
-    statements++;
-    int at = branches.size();
-    branches.add("");
-    String made = "?" + value() + "=#<".charAt(random.nextInt(3)) + value() + "{" + side(depth, most) + "}";
-    made += random.nextInt(3) == 0 ? "" : "{" + side(depth, most) + "}";
-    branches.set(at, made);
-    return made;
-  }
-
-  private String side(int depth, int most) {
-    return random.nextInt(6) == 0 ? "" : statements(depth + 1, most);
-  }
-
-  private String simple(int depth) {
-    statements++;
-    String target = variable() + "=";
-    switch (random.nextInt(depth == 0 ? 7 : 14)) {
-      case 0:
-        return "!" + value() + ";";
-      case 1: case 7:
-        return target + "@" + value() + ";";
-      case 2: case 8:
-        return "@" + value() + "=" + value() + ";";
-      case 3: case 9:
-        return target + value() + ";";
-      default:
-        return target + value() + "+-*/%&|^".charAt(random.nextInt(8)) + value() + ";";
-    }
-  }
-
-  private String variable() {
-    return String.valueOf((char) ('a' + random.nextInt(random.nextBoolean() ? 4 : 16)));
-  }
-
-  private String value() {
-    switch (random.nextInt(6)) {
-      case 0:
-        return String.valueOf(random.nextInt(40));
-      case 1:
-        return random.nextInt(4) == 0 ? "-" + random.nextInt(3) : String.valueOf(random.nextInt(3));
-      default:
-        return variable();
-    }
-  }
-
   private void tryText(String text) {
     GuardedMoves x = Check.fed(text);
-    Check.due("read() of " + text, x.read(), statements);
+    Check.due("read() of " + text, x.read(), madeUp.statements);
     for (int limit : LIMITS) {
       x.lower(limit);
       wellMade(text, x);
@@ -98,18 +29,9 @@ public final class AgreementTest {
     }
   }
 
-  private int number() {
-    return random.nextBoolean() ? EDGES[random.nextInt(EDGES.length)] : random.nextInt(32);
-  }
-
   private void agrees(String text, GuardedMoves x) {
     for (int i = 0; i < 3; i++) {
-      for (int v = 0; v < 16; v++) {
-        x.variable(v, number());
-      }
-      for (int w = 0; w < 32; w++) {
-        x.word(w, number());
-      }
+      madeUp.put(x);
       int ended = x.tell();
       String told = leftBy(x, ended == 0 || x.count(4) == 0);
       Check.due("run() of " + text, x.run(), ended);
@@ -160,9 +82,9 @@ public final class AgreementTest {
     int next = 0;
     for (int s = 0; s < x.count(0); s++) {
       if (x.statement(s, 0) == 5) {
-        GuardedMoves alone = Check.of(branches.get(next));
+        GuardedMoves alone = Check.of(madeUp.branches.get(next));
         int steps = alone.lower(limit);
-        boolean all = alone.count(3) == 0 && branches.get(next).indexOf('!') < 0 && steps <= limit;
+        boolean all = alone.count(3) == 0 && madeUp.branches.get(next).indexOf('!') < 0 && steps <= limit;
         Check.due("statement(" + s + ", 2) of " + text + " with " + limit, x.statement(s, 2), all ? 1 : 0);
         found += all ? 1 : 0;
         next++;

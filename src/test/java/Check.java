@@ -42,7 +42,7 @@ final class Check {
     throwing(call, made, IllegalStateException.class);
   }
 
-  private static void throwing(String call, Call made, Class<?> want) {
+  static void throwing(String call, Call made, Class<?> want) {
     Object got = "nothing";
     try {
       made.make();
@@ -135,6 +135,22 @@ final class Check {
     all.append(", output");
     for (int i = 0; i < x.count(5); i++) {
       all.append(' ').append(x.output(i));
+    }
+    return all.toString();
+  }
+
+  /** What the latest run left, and how, where and behind how many it ended. */
+  static String run(GuardedMoves x, int ended) {
+    return left(x) + ", ended " + ended + " in " + x.count(7) + " behind " + x.count(8);
+  }
+
+  /** The whole code, all six numbers of each step. */
+  static String rows(GuardedMoves x) {
+    StringBuilder all = new StringBuilder();
+    for (int i = 0; i < x.count(1); i++) {
+      for (int what = 0; what < 6; what++) {
+        all.append(x.step(i, what)).append(' ');
+      }
     }
     return all.toString();
   }

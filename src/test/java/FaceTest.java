@@ -7,28 +7,34 @@ import java.util.TreeSet;
 
 /** The public face: what the document lists, and nothing else that another class could see. */
 public final class FaceTest {
+  /** The lines of the document's face as they stand there. */
   private static final String[] METHODS = {
-    "void variable(int, int) IndexOutOfBoundsException",
-    "void word(int, int) IndexOutOfBoundsException",
-    "int feed(long, int) IllegalArgumentException, IllegalStateException",
-    "int read()",
-    "int fault()",
-    "int statement(int, int) IndexOutOfBoundsException, IllegalArgumentException",
-    "int lower(int) IllegalArgumentException",
-    "int trim()",
-    "int step(int, int) IndexOutOfBoundsException, IllegalArgumentException",
-    "int tell()",
-    "int run() IllegalStateException",
-    "int left(int) IndexOutOfBoundsException",
-    "int kept(int) IndexOutOfBoundsException",
-    "int output(int) IndexOutOfBoundsException",
-    "int count(int) IllegalArgumentException"
+    "public void variable(int v, int number) throws IndexOutOfBoundsException;",
+    "public void word(int i, int number) throws IndexOutOfBoundsException;",
+    "public int feed(long bytes, int n) throws IllegalArgumentException, IllegalStateException;",
+    "public int read();",
+    "public int fault();",
+    "public int statement(int s, int what) throws IndexOutOfBoundsException, IllegalArgumentException;",
+    "public int lower(int limit) throws IllegalArgumentException;",
+    "public int trim();",
+    "public int step(int i, int what) throws IndexOutOfBoundsException, IllegalArgumentException;",
+    "public int tell();",
+    "public int run() throws IllegalStateException;",
+    "public int left(int v) throws IndexOutOfBoundsException;",
+    "public int kept(int i) throws IndexOutOfBoundsException;",
+    "public int output(int i) throws IndexOutOfBoundsException;",
+    "public int count(int what) throws IllegalArgumentException;"
   };
 
   public static void main(String[] args) {
     Class<?> face = GuardedMoves.class;
     Check.due("public final", Modifier.isPublic(face.getModifiers()) && Modifier.isFinal(face.getModifiers()), true);
-    Check.due("methods", methods(face), new TreeSet<>(Arrays.asList(METHODS)));
+    TreeSet<String> due = new TreeSet<>();
+    for (String line : METHODS) {
+      // a class that was made holds no names of parameters
+      due.add(line.replaceAll("(int|long) \\w+([,)])", "$1$2"));
+    }
+    Check.due("methods", methods(face), due);
     Check.due("fields", fields(face), new TreeSet<>(Arrays.asList("public static final int NONE")));
     Constructor<?>[] made = face.getDeclaredConstructors();
     Check.due("constructors", made.length, 1);
@@ -41,8 +47,9 @@ public final class FaceTest {
     TreeSet<String> found = new TreeSet<>();
     for (Method m : face.getDeclaredMethods()) {
       if (!Modifier.isPrivate(m.getModifiers()) && !m.isSynthetic()) {
-        String named = m.getReturnType().getName() + " " + m.getName() + "(" + names(m.getParameterTypes()) + ")";
-        found.add((named + " " + names(m.getExceptionTypes())).trim());
+        String thrown = names(m.getExceptionTypes());
+        found.add(Modifier.toString(m.getModifiers()) + " " + m.getReturnType().getName() + " " + m.getName() + "("
+            + names(m.getParameterTypes()) + ")" + (thrown.isEmpty() ? "" : " throws " + thrown) + ";");
       }
     }
     return found;

@@ -40,7 +40,7 @@ public final class PromiseBoundsTest {
   }
 
   private static void calls512() {
-    Check.sentence("An object is used for at most 512 calls after it has been made");
+    Check.sentence("An object is used for at most 512 calls after it has been made; what later calls answer is free.");
     GuardedMoves x = new GuardedMoves();
     // ?a=a{c=1/0;}
     x.feed(0x3F613D617B633D31L, 8);
