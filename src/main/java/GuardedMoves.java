@@ -318,18 +318,17 @@ public final class GuardedMoves {
             fault = 0;
             faultPlace = 0;
             // Each round takes a byte at least, or ends the reading.
-            for (int round = 0; round <= length && fault == 0; round++) {
+            for (int round = 0; round <= length; round++) {
                 int next = nextByte();
                 if (next == END) {
                     return open == 0 || refuse(WRONG_BYTE);
                 }
-                if (next == '}') {
-                    closeSide();
-                } else {
-                    takeStatement(next);
+                boolean stands = next == '}' ? closeSide() : takeStatement(next);
+                if (!stands) {
+                    return false;
                 }
             }
-            return fault == 0;
+            return false;
         }
 
         private boolean refuse(int number) {
